@@ -626,7 +626,6 @@ public final class Coilworm {
 
         void lay(int cell, int growthAtFirst) {
             put(cells, head, cell);
-            put(deeds, head, 0);
             size = 1;
             growth = growthAtFirst;
             body = setOf(cell);
@@ -636,8 +635,6 @@ public final class Coilworm {
         void takeAway() {
             size = 0;
             growth = 0;
-            body = 0;
-            isDead = false;
         }
 
         void die() {

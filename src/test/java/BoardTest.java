@@ -173,6 +173,15 @@ public final class BoardTest {
         x.setWall(4, false);
         x.setWall(7, false);
         T.due("as ahead of the walls", tree(x), "1 2 6 7 8 9 10 11");
+        Coilworm y = new Coilworm();
+        for (int link = 0; link < 12; link++) {
+            y.setLink(link, 5);
+        }
+        y.setLink(6, 1);
+        y.setLink(2, 2);
+        y.setLink(7, 3);
+        T.due("0, 3, 4 and 1 joined first, the link 0 is too many", tree(y), "1 2 3 4 5 6 7 9");
+        T.due("hasCycle()", y.hasCycle(), true);
     }
 
     private static void cycles() {

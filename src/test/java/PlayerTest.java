@@ -215,6 +215,13 @@ public final class PlayerTest {
         // From 14 at the place 12 to the farthest one not beyond 13: 13 itself, 35 away.
         T.due("play(1)", y.play(1), 1);
         T.due("head", y.bodyAt(0), 13);
+        Coilworm w = new Coilworm();
+        w.begin(14, 0);
+        w.feed(7);
+        // The feed is 34 away; 8, above, is 33 away, and 15 and 20, which are safe too, are 1 and 7 away.
+        T.due("safe", safe(w), "012");
+        T.due("play(1)", w.play(1), 1);
+        T.due("head", w.bodyAt(0), 8);
         Coilworm z = new Coilworm();
         z.begin(14, 0);
         z.feed(19);

@@ -15,6 +15,7 @@ public final class WormTest {
         growsAndMoves();
         eats();
         eatsOnlyTheFirst();
+        eatsALongRow();
         diesAtTheRim();
         diesAtWallsAndShutLinks();
         diesOfItself();
@@ -206,6 +207,35 @@ public final class WormTest {
         dueWorm("then the second one", x, "1 7 8", 2, 2);
         T.due("steps", steps(x, R), "4");
         dueWorm("one of two on a cell", x, "2 1 7 8", 3, 1);
+    }
+
+    private static void eatsALongRow() {
+        int[] path = {R, R, R, R, R, D, L, L, L, L, D, R, R, R, R, D, L, L, L, L, D, R, R, R, R};
+        int[] cells = {1, 2, 3, 4, 5, 11, 10, 9, 8, 7, 13, 14, 15, 16, 17, 23, 22, 21, 20, 19, 25, 26, 27, 28, 29};
+        Coilworm x = new Coilworm();
+        for (int cell : cells) {
+            x.feed(cell);
+        }
+        x.begin(0, 0);
+        for (int i = 0; i < path.length; i++) {
+            T.due("length behind the meal " + i, x.step(path[i]), i + 1);
+            T.due("feeds() behind the meal " + i, x.feeds(), cells.length - 1 - i);
+            T.due("owed() behind the meal " + i, x.owed(), i + 2);
+            T.due("livesFor(6) lives", x.livesFor(6), 6);
+        }
+        x.end();
+        for (int cell : cells) {
+            x.feed(cell);
+        }
+        // The worm's foreseen walks eat from a row that begins in the middle of its room, and put back.
+        x.begin(0, 0);
+        for (int i = 0; i < path.length; i++) {
+            x.livesFor(6);
+            x.fewest();
+            x.fewestByBodies();
+            T.due("length behind the meal " + i + " of the second row", x.step(path[i]), i + 1);
+            T.due("feeds() of the second row", x.feeds(), cells.length - 1 - i);
+        }
     }
 
     private static void dueDeath(String name, Coilworm x, int direction) {
