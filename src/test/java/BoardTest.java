@@ -5,39 +5,16 @@ public final class BoardTest {
     public static void main(String[] args) {
         newObject();
         walls();
-        wallsRefused();
         weights();
-        weightsRefused();
-        queriesRefused();
         trees();
         cycles();
         T.close();
     }
 
-    private static String tree(Coilworm x) {
-        StringBuilder links = new StringBuilder();
-        for (int link = 0; link < 12; link++) {
-            if (x.isInTree(link)) {
-                links.append(links.length() == 0 ? "" : " ").append(link);
-            }
-        }
-        return links.toString();
-    }
-
-    private static String wallCells(Coilworm x) {
-        StringBuilder cells = new StringBuilder();
-        for (int cell = 0; cell < 36; cell++) {
-            if (x.isWall(cell)) {
-                cells.append(cells.length() == 0 ? "" : " ").append(cell);
-            }
-        }
-        return cells.toString();
-    }
-
     private static void newObject() {
         Coilworm x = new Coilworm();
-        T.due("walls of a new object", wallCells(x), "");
-        T.due("tree of a new object", tree(x), "0 1 2 3 4 5 6 9");
+        T.due("walls of a new object", Scenes.wallCells(x), "");
+        T.due("tree of a new object", Scenes.tree(x), "0 1 2 3 4 5 6 9");
         T.due("hasCycle()", x.hasCycle(), true);
         T.due("isAlive()", x.isAlive(), false);
         T.due("length()", x.length(), 0);
@@ -54,7 +31,7 @@ public final class BoardTest {
         Coilworm other = new Coilworm();
         x.setWall(3, true);
         x.begin(0, 0);
-        T.due("another object's walls", wallCells(other), "");
+        T.due("another object's walls", Scenes.wallCells(other), "");
         T.due("another object's worm", other.isAlive(), false);
     }
 
@@ -64,43 +41,17 @@ public final class BoardTest {
         for (int block = 0; block < 9; block++) {
             Coilworm x = new Coilworm();
             T.due("setWall(" + block + ", true)", x.setWall(block, true), false);
-            T.due("cells of the block " + block, wallCells(x), cells[block]);
+            T.due("cells of the block " + block, Scenes.wallCells(x), cells[block]);
             T.due("setWall(" + block + ", true) again", x.setWall(block, true), true);
-            T.due("cells of the block again", wallCells(x), cells[block]);
+            T.due("cells of the block again", Scenes.wallCells(x), cells[block]);
             T.due("setWall(" + block + ", false)", x.setWall(block, false), true);
-            T.due("no walls again", wallCells(x), "");
+            T.due("no walls again", Scenes.wallCells(x), "");
             T.due("setWall(" + block + ", false) again", x.setWall(block, false), false);
         }
         Coilworm x = new Coilworm();
         x.setWall(0, true);
         x.setWall(8, true);
-        T.due("two walls", wallCells(x), "0 1 6 7 28 29 34 35");
-    }
-
-    private static void wallsRefused() {
-        Coilworm x = new Coilworm();
-        for (int block : new int[] {-1, 9, 32, Integer.MIN_VALUE, Integer.MAX_VALUE}) {
-            T.range("setWall(" + block + ", true)", x, () -> x.setWall(block, true));
-            T.range("setWall(" + block + ", false)", x, () -> x.setWall(block, false));
-        }
-        x.feed(3);
-        x.feed(21);
-        T.state("setWall(1, true) over a feed", x, () -> x.setWall(1, true));
-        T.state("setWall(1, false) over a feed", x, () -> x.setWall(1, false));
-        T.state("setWall(4, true) over the second feed", x, () -> x.setWall(4, true));
-        T.due("setWall(0, true) beside the feeds", x.setWall(0, true), false);
-        T.due("setWall(0, false) beside the feeds", x.setWall(0, false), true);
-        x.begin(2, 0);
-        T.state("setWall(8, true) with a worm", x, () -> x.setWall(8, true));
-        T.state("setWall(8, false) with a worm", x, () -> x.setWall(8, false));
-        T.range("setWall(9, true) with a worm", x, () -> x.setWall(9, true));
-        x.step(1);
-        x.step(0);
-        T.due("dead", x.isAlive(), false);
-        T.state("setWall(8, true) with a dead worm", x, () -> x.setWall(8, true));
-        x.end();
-        T.due("setWall(1, true) behind the meal", x.setWall(1, true), false);
-        T.state("setWall(4, true) over the feed that is left", x, () -> x.setWall(4, true));
+        T.due("two walls", Scenes.wallCells(x), "0 1 6 7 28 29 34 35");
     }
 
     private static void weights() {
@@ -115,64 +66,31 @@ public final class BoardTest {
         }
     }
 
-    private static void weightsRefused() {
-        Coilworm x = new Coilworm();
-        x.setLink(3, 7);
-        for (int link : new int[] {-1, 12, 35, Integer.MIN_VALUE, Integer.MAX_VALUE}) {
-            T.range("setLink(" + link + ", 0)", x, () -> x.setLink(link, 0));
-            T.range("setLink(" + link + ", 10)", x, () -> x.setLink(link, 10));
-        }
-        for (int weight : new int[] {-2, 10, Integer.MIN_VALUE, Integer.MAX_VALUE}) {
-            T.argument("setLink(3, " + weight + ")", x, () -> x.setLink(3, weight));
-        }
-        x.begin(0, 0);
-        T.state("setLink(3, 0) with a worm", x, () -> x.setLink(3, 0));
-        T.state("setLink(3, 7) with a worm", x, () -> x.setLink(3, 7));
-        T.argument("setLink(3, 10) with a worm", x, () -> x.setLink(3, 10));
-        T.range("setLink(12, 10) with a worm", x, () -> x.setLink(12, 10));
-        x.step(0);
-        T.state("setLink(3, 0) with a dead worm", x, () -> x.setLink(3, 0));
-        x.end();
-        T.due("the weight behind all that", x.setLink(3, 1), 7);
-        x.feed(8);
-        T.due("setLink with a feed", x.setLink(3, 2), 1);
-    }
-
-    private static void queriesRefused() {
-        Coilworm x = new Coilworm();
-        for (int cell : new int[] {-1, 36, Integer.MIN_VALUE, Integer.MAX_VALUE}) {
-            T.range("isWall(" + cell + ")", x, () -> x.isWall(cell));
-        }
-        for (int link : new int[] {-1, 12, 32, Integer.MIN_VALUE, Integer.MAX_VALUE}) {
-            T.range("isInTree(" + link + ")", x, () -> x.isInTree(link));
-        }
-    }
-
     private static void trees() {
         Coilworm x = new Coilworm();
         x.setLink(0, 5);
         x.setLink(6, 9);
-        T.due("heavy links last", tree(x), "0 1 2 3 4 5 7 9");
+        T.due("heavy links last", Scenes.tree(x), "0 1 2 3 4 5 7 9");
         x.setLink(7, 9);
-        T.due("of as heavy ones the lower number first", tree(x), "0 1 2 3 4 5 8 9");
+        T.due("of as heavy ones the lower number first", Scenes.tree(x), "0 1 2 3 4 5 8 9");
         x.setLink(8, 9);
-        T.due("all three as heavy", tree(x), "0 1 2 3 4 5 6 9");
+        T.due("all three as heavy", Scenes.tree(x), "0 1 2 3 4 5 6 9");
         for (int link = 0; link < 6; link++) {
             x.setLink(link, 3);
         }
         for (int link = 6; link < 12; link++) {
             x.setLink(link, 2);
         }
-        T.due("the columns first", tree(x), "0 1 6 7 8 9 10 11");
+        T.due("the columns first", Scenes.tree(x), "0 1 6 7 8 9 10 11");
         x.setLink(0, Coilworm.NONE);
-        T.due("shut, another one in its place", tree(x), "1 2 6 7 8 9 10 11");
+        T.due("shut, another one in its place", Scenes.tree(x), "1 2 6 7 8 9 10 11");
         x.setWall(4, true);
-        T.due("no link to a wall", tree(x), "1 4 5 6 8 9 11");
+        T.due("no link to a wall", Scenes.tree(x), "1 4 5 6 8 9 11");
         x.setWall(7, true);
-        T.due("a tree in two parts", tree(x), "1 6 8 9 11");
+        T.due("a tree in two parts", Scenes.tree(x), "1 6 8 9 11");
         x.setWall(4, false);
         x.setWall(7, false);
-        T.due("as ahead of the walls", tree(x), "1 2 6 7 8 9 10 11");
+        T.due("as ahead of the walls", Scenes.tree(x), "1 2 6 7 8 9 10 11");
         Coilworm y = new Coilworm();
         for (int link = 0; link < 12; link++) {
             y.setLink(link, 5);
@@ -180,7 +98,7 @@ public final class BoardTest {
         y.setLink(6, 1);
         y.setLink(2, 2);
         y.setLink(7, 3);
-        T.due("0, 3, 4 and 1 joined first, the link 0 is too many", tree(y), "1 2 3 4 5 6 7 9");
+        T.due("0, 3, 4 and 1 joined first, the link 0 is too many", Scenes.tree(y), "1 2 3 4 5 6 7 9");
         T.due("hasCycle()", y.hasCycle(), true);
     }
 
@@ -190,7 +108,7 @@ public final class BoardTest {
             x.setWall(block, true);
         }
         T.due("hasCycle() of one block", x.hasCycle(), true);
-        T.due("tree of one block", tree(x), "");
+        T.due("tree of one block", Scenes.tree(x), "");
         x.setWall(8, true);
         T.due("hasCycle() of none", x.hasCycle(), false);
         x.setWall(0, false);

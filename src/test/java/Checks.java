@@ -1,7 +1,11 @@
 /** Counts the answers that are due and those that are not, and closes a test with a line and an exit code. */
 final class Checks {
+    interface Maker {
+        Coilworm make();
+    }
+
     interface Call {
-        void run();
+        void on(Coilworm x);
     }
 
     private final String test;
@@ -24,29 +28,29 @@ final class Checks {
         count(got.equals(want), call + " answered " + got + ", due is " + want);
     }
 
-    /** The call throws just this exception, and all that can be asked of the object stays as it was. */
-    void refused(String name, Coilworm x, Class<? extends RuntimeException> want, Call call) {
-        String before = Looks.at(x);
+    /** The call throws just this exception, and the object then answers all as one on which it was not made. */
+    void refused(String name, Maker scene, Class<? extends RuntimeException> want, Call call) {
+        Coilworm x = scene.make();
         String thrown = "nothing";
         try {
-            call.run();
+            call.on(x);
         } catch (RuntimeException e) {
             thrown = e.getClass().getSimpleName();
         }
         due(name + " throws", thrown, want.getSimpleName());
-        due("all answers behind " + name, Looks.at(x), before);
+        due("all answers behind " + name, Looks.at(x), Looks.at(scene.make()));
     }
 
-    void range(String name, Coilworm x, Call call) {
-        refused(name, x, IndexOutOfBoundsException.class, call);
+    void range(String name, Maker scene, Call call) {
+        refused(name, scene, IndexOutOfBoundsException.class, call);
     }
 
-    void argument(String name, Coilworm x, Call call) {
-        refused(name, x, IllegalArgumentException.class, call);
+    void argument(String name, Maker scene, Call call) {
+        refused(name, scene, IllegalArgumentException.class, call);
     }
 
-    void state(String name, Coilworm x, Call call) {
-        refused(name, x, IllegalStateException.class, call);
+    void state(String name, Maker scene, Call call) {
+        refused(name, scene, IllegalStateException.class, call);
     }
 
     private void count(boolean holds, String complaint) {

@@ -8,9 +8,6 @@ public final class CycleTest {
         roundAWall();
         oneBlock();
         lowestCellIsPlaceNought();
-        allWalls();
-        refused();
-        refusedWithoutCycle();
         T.close();
     }
 
@@ -26,10 +23,6 @@ public final class CycleTest {
             if (!isOnIt[cell]) {
                 T.due(name + ": placeOf(" + cell + ")", x.placeOf(cell), -1);
             }
-        }
-        for (int place : new int[] {-1, cells.length, cells.length + 1, 36, Integer.MIN_VALUE, Integer.MAX_VALUE}) {
-            T.range(name + ": cellAt(" + place + ")", x, () -> x.cellAt(place));
-            T.range(name + ": cellAtByRings(" + place + ")", x, () -> x.cellAtByRings(place));
         }
     }
 
@@ -69,39 +62,5 @@ public final class CycleTest {
             x.setWall(block, block != 2 && block != 5 && block != 4);
         }
         dueCycle("a corner", x, 4, 5, 11, 17, 23, 22, 21, 20, 14, 15, 16, 10);
-    }
-
-    private static void allWalls() {
-        Coilworm x = new Coilworm();
-        for (int block = 0; block < 9; block++) {
-            x.setWall(block, true);
-        }
-        T.state("placeOf(0) of walls", x, () -> x.placeOf(0));
-        T.range("placeOf(36) of walls", x, () -> x.placeOf(36));
-        T.state("cellAt(0) of walls", x, () -> x.cellAt(0));
-        T.state("cellAtByRings(0) of walls", x, () -> x.cellAtByRings(0));
-    }
-
-    private static void refused() {
-        Coilworm x = new Coilworm();
-        for (int cell : new int[] {-1, 36, Integer.MIN_VALUE, Integer.MAX_VALUE}) {
-            T.range("placeOf(" + cell + ")", x, () -> x.placeOf(cell));
-        }
-    }
-
-    private static void refusedWithoutCycle() {
-        Coilworm x = new Coilworm();
-        x.setLink(0, Coilworm.NONE);
-        x.setLink(6, Coilworm.NONE);
-        T.due("hasCycle()", x.hasCycle(), false);
-        for (int place : new int[] {-1, 0, 35, 36}) {
-            T.state("cellAt(" + place + ") without a cycle", x, () -> x.cellAt(place));
-            T.state("cellAtByRings(" + place + ") without a cycle", x, () -> x.cellAtByRings(place));
-        }
-        T.state("placeOf(35) without a cycle", x, () -> x.placeOf(35));
-        T.range("placeOf(-1) without a cycle", x, () -> x.placeOf(-1));
-        T.range("placeOf(36) without a cycle", x, () -> x.placeOf(36));
-        x.setWall(8, true);
-        T.state("placeOf(35), a wall, without a cycle", x, () -> x.placeOf(35));
     }
 }

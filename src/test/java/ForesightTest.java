@@ -10,22 +10,11 @@ public final class ForesightTest {
         reach();
         lives();
         livesByEating();
-        livesRefused();
         fewestOnOpenBoard();
         fewestRoundThings();
         fewestOnOwnCell();
         fewestSeeksTheFirst();
-        fewestRefused();
-        changesNothing();
         T.close();
-    }
-
-    private static Coilworm oneBlock() {
-        Coilworm x = new Coilworm();
-        for (int block = 1; block < 9; block++) {
-            x.setWall(block, true);
-        }
-        return x;
     }
 
     private static void steps(Coilworm x, int... directions) {
@@ -70,7 +59,7 @@ public final class ForesightTest {
         steps(x, L, U, U);
         // From 12 one comes to 6 alone: 0, 13 and 18 are body.
         T.due("reach() shut in", x.reach(), 1);
-        Coilworm y = oneBlock();
+        Coilworm y = Scenes.oneBlock();
         y.begin(0, 3);
         steps(y, R, D, L);
         T.due("reach() with no way out", y.reach(), 0);
@@ -86,7 +75,7 @@ public final class ForesightTest {
         Coilworm x = new Coilworm();
         x.begin(14, 20);
         dueLives("the open board", x, 1, 2, 3, 4, 5, 6);
-        Coilworm y = oneBlock();
+        Coilworm y = Scenes.oneBlock();
         y.begin(0, 20);
         dueLives("one block, growing", y, 1, 2, 3, 3, 3, 3);
         y.end();
@@ -110,14 +99,14 @@ public final class ForesightTest {
     }
 
     private static void livesByEating() {
-        Coilworm x = oneBlock();
+        Coilworm x = Scenes.oneBlock();
         x.feed(1);
         x.begin(0, 2);
         dueLives("to eat is to grow", x, 1, 2, 3, 4, 4, 4);
         x.end();
         x.begin(0, 0);
         dueLives("one cell, one feed", x, 1, 2, 3, 4, 5, 6);
-        Coilworm y = oneBlock();
+        Coilworm y = Scenes.oneBlock();
         y.feed(1);
         y.feed(0);
         y.feed(7);
@@ -131,19 +120,6 @@ public final class ForesightTest {
         y.end();
         y.begin(0, 2);
         dueLives("three cells, four feeds", y, 1, 2, 3, 4, 4, 4);
-    }
-
-    private static void livesRefused() {
-        Coilworm x = new Coilworm();
-        T.state("livesFor(1) without a worm", x, () -> x.livesFor(1));
-        T.argument("livesFor(0) without a worm", x, () -> x.livesFor(0));
-        x.begin(0, 0);
-        for (int most : new int[] {0, -1, 7, Integer.MIN_VALUE, Integer.MAX_VALUE}) {
-            T.argument("livesFor(" + most + ")", x, () -> x.livesFor(most));
-        }
-        x.step(U);
-        T.state("livesFor(6) of a dead worm", x, () -> x.livesFor(6));
-        T.argument("livesFor(7) of a dead worm", x, () -> x.livesFor(7));
     }
 
     private static void dueFewest(String name, Coilworm x, int due) {
@@ -195,7 +171,7 @@ public final class ForesightTest {
         steps(z, R, R, D, L);
         // 7 is the head; 0 is body that stays.
         dueFewest("on the body", z, -1);
-        Coilworm w = oneBlock();
+        Coilworm w = Scenes.oneBlock();
         w.feed(0);
         w.begin(0, 3);
         steps(w, R, D, L);
@@ -226,35 +202,5 @@ public final class ForesightTest {
         dueFewest("the second one then", x, 2);
         steps(x, L, L);
         dueFewest("none left", x, -1);
-    }
-
-    private static void fewestRefused() {
-        Coilworm x = new Coilworm();
-        x.feed(1);
-        T.state("fewest() without a worm", x, () -> x.fewest());
-        T.state("fewestByBodies() without a worm", x, () -> x.fewestByBodies());
-        x.begin(0, 0);
-        x.step(U);
-        T.state("fewest() of a dead worm", x, () -> x.fewest());
-        T.state("fewestByBodies() of a dead worm", x, () -> x.fewestByBodies());
-    }
-
-    private static void changesNothing() {
-        Coilworm x = new Coilworm();
-        x.feed(15);
-        x.feed(16);
-        x.begin(14, 2);
-        steps(x, U);
-        String before = Looks.at(x);
-        x.reach();
-        x.livesFor(6);
-        x.fewest();
-        x.fewestByBodies();
-        x.isSafe(R);
-        x.isInOrder();
-        T.due("all answers behind asking", Looks.at(x), before);
-        T.due("body", x.bodyAt(0) + " " + x.bodyAt(1), "8 14");
-        T.due("owed()", x.owed(), 1);
-        T.due("feeds()", x.feeds(), 2);
     }
 }

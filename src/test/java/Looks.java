@@ -1,4 +1,7 @@
-/** All that can be asked of an object without changing it, as one text. */
+/**
+ * All that an object answers, as one text. What can be seen only by changing it (the weights, where the feeds are) is
+ * asked last, so that the object is of no use behind it. It takes some 250 calls of the 512 that an object has.
+ */
 final class Looks {
     private Looks() {
     }
@@ -10,6 +13,7 @@ final class Looks {
         if (x.isAlive()) {
             foreseen(x, text);
         }
+        takenApart(x, text);
         return text.toString();
     }
 
@@ -20,8 +24,9 @@ final class Looks {
         for (int link = 0; link < 12; link++) {
             text.append(x.isInTree(link) ? 't' : '-');
         }
-        text.append(x.hasCycle());
-        for (int cell = 0; cell < 36 && x.hasCycle(); cell++) {
+        boolean hasCycle = x.hasCycle();
+        text.append(hasCycle);
+        for (int cell = 0; cell < 36 && hasCycle; cell++) {
             int place = x.placeOf(cell);
             text.append(' ').append(place);
             if (place != Coilworm.NONE) {
@@ -32,16 +37,29 @@ final class Looks {
 
     private static void worm(Coilworm x, StringBuilder text) {
         text.append(" worm ").append(x.isAlive()).append(x.length()).append('+').append(x.owed());
-        for (int place = 0; place < x.length(); place++) {
-            text.append(' ').append(x.bodyAt(place));
-        }
+        text.append(' ').append(Scenes.body(x));
         text.append(" feeds ").append(x.feeds()).append(x.isInOrder()).append(x.reach());
     }
 
     private static void foreseen(Coilworm x, StringBuilder text) {
-        for (int direction = 0; direction < 4; direction++) {
-            text.append(' ').append(x.isSafe(direction));
-        }
+        text.append(' ').append(Scenes.safe(x));
         text.append(' ').append(x.livesFor(6)).append(' ').append(x.fewest()).append(' ').append(x.fewestByBodies());
+    }
+
+    private static void takenApart(Coilworm x, StringBuilder text) {
+        text.append(" apart ");
+        if (x.length() > 0) {
+            text.append(x.end());
+        }
+        for (int link = 0; link < 12; link++) {
+            text.append(' ').append(x.setLink(link, 0));
+        }
+        for (int block = 0; block < 9; block++) {
+            try {
+                text.append(x.setWall(block, false) ? " wall" : " open");
+            } catch (IllegalStateException e) {
+                text.append(" fed");
+            }
+        }
     }
 }

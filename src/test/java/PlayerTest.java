@@ -13,11 +13,9 @@ public final class PlayerTest {
         notFartherThanTheFeed();
         orderAhead();
         roomForTheGrowth();
-        safeRefused();
         playsTheFarthest();
         playsUntilNoneIsSafe();
         playsSoMany();
-        playRefused();
         T.close();
     }
 
@@ -25,25 +23,6 @@ public final class PlayerTest {
         for (int direction : directions) {
             T.due("a step lives", x.step(direction) > 0, true);
         }
-    }
-
-    private static Coilworm oneBlock() {
-        Coilworm x = new Coilworm();
-        for (int block = 1; block < 9; block++) {
-            x.setWall(block, true);
-        }
-        return x;
-    }
-
-    /** The safe directions, as a text of their numbers. */
-    private static String safe(Coilworm x) {
-        StringBuilder directions = new StringBuilder();
-        for (int direction = 0; direction < 4; direction++) {
-            if (x.isSafe(direction)) {
-                directions.append(direction);
-            }
-        }
-        return directions.toString();
     }
 
     private static void order() {
@@ -67,11 +46,11 @@ public final class PlayerTest {
         T.due("isInOrder() round a block: 1 + 9 + 25", x.isInOrder(), true);
         steps(x, U);
         T.due("isInOrder() round and on: 9 + 25 + 1", x.isInOrder(), true);
-        Coilworm y = oneBlock();
+        Coilworm y = Scenes.oneBlock();
         y.begin(0, 4);
         steps(y, R, D, L);
         T.due("isInOrder(), 3 of 4", y.isInOrder(), true);
-        Coilworm z = oneBlock();
+        Coilworm z = Scenes.oneBlock();
         z.begin(0, 2);
         steps(z, R, D);
         T.due("isInOrder(), 2 of 4", z.isInOrder(), true);
@@ -91,10 +70,10 @@ public final class PlayerTest {
     private static void safeAtAll() {
         Coilworm x = new Coilworm();
         x.begin(14, 3);
-        T.due("safe without a feed", safe(x), "");
+        T.due("safe without a feed", Scenes.safe(x), "");
         x.feed(13);
         // From 14 at the place 12: 8 is 33 away, with 2 left for 2; 13 is 35 away, with 0 left for 4.
-        T.due("safe towards 13, 35 away", safe(x), "012");
+        T.due("safe towards 13, 35 away", Scenes.safe(x), "012");
         T.due("body behind asking", x.bodyAt(0), 14);
         T.due("length behind asking", x.length(), 1);
         T.due("owed behind asking", x.owed(), 3);
@@ -102,19 +81,19 @@ public final class PlayerTest {
         Coilworm y = new Coilworm();
         y.begin(0, 0);
         y.feed(6);
-        T.due("safe at a corner", safe(y), "12");
+        T.due("safe at a corner", Scenes.safe(y), "12");
         Coilworm z = new Coilworm();
         z.setWall(1, true);
         z.setLink(6, Coilworm.NONE);
         z.begin(7, 0);
         z.feed(6);
-        T.due("no cycle, none safe", safe(z), "");
+        T.due("no cycle, none safe", Scenes.safe(z), "");
         Coilworm w = new Coilworm();
         w.setWall(4, true);
         w.begin(8, 0);
         w.feed(9);
         // The places: 8 is 13, 9 is 12, 2 is 2, 7 is 14, and 14 is a wall.
-        T.due("safe beside a wall", safe(w), "013");
+        T.due("safe beside a wall", Scenes.safe(w), "013");
     }
 
     private static void safeWithoutCycle() {
@@ -123,7 +102,7 @@ public final class PlayerTest {
         x.setLink(6, Coilworm.NONE);
         x.begin(14, 0);
         x.feed(15);
-        T.due("safe without a cycle", safe(x), "");
+        T.due("safe without a cycle", Scenes.safe(x), "");
         T.due("play(5) without a cycle", x.play(5), 0);
     }
 
@@ -131,22 +110,22 @@ public final class PlayerTest {
         Coilworm x = new Coilworm();
         x.begin(0, 0);
         x.feed(1);
-        T.due("safe, the feed 1 away", safe(x), "1");
+        T.due("safe, the feed 1 away", Scenes.safe(x), "1");
         x.step(R);
         T.due("feeds()", x.feeds(), 0);
         x.feed(8);
         // From 1 at the place 1: 2 is 1 away, 7 is 9, 8 is 8, 0 is 35.
-        T.due("safe, the feed 8 away", safe(x), "1");
+        T.due("safe, the feed 8 away", Scenes.safe(x), "1");
         x.feed(7);
-        T.due("safe, the second feed does not count", safe(x), "1");
+        T.due("safe, the second feed does not count", Scenes.safe(x), "1");
         Coilworm y = new Coilworm();
         y.begin(1, 0);
         y.feed(7);
-        T.due("safe, just as far as the feed", safe(y), "12");
+        T.due("safe, just as far as the feed", Scenes.safe(y), "12");
         Coilworm z = new Coilworm();
         z.begin(0, 0);
         z.feed(0);
-        T.due("safe, the feed on the head", safe(z), "12");
+        T.due("safe, the feed on the head", Scenes.safe(z), "12");
     }
 
     private static void orderAhead() {
@@ -155,52 +134,38 @@ public final class PlayerTest {
         steps(x, U, U);
         T.due("isInOrder(), 33 + 29", x.isInOrder(), false);
         x.feed(4);
-        T.due("none safe out of order", safe(x), "");
+        T.due("none safe out of order", Scenes.safe(x), "");
         steps(x, R);
         T.due("isInOrder(), 29 + 1", x.isInOrder(), true);
-        T.due("safe in order again", safe(x), "1");
+        T.due("safe in order again", Scenes.safe(x), "1");
         Coilworm y = new Coilworm();
         y.begin(8, 3);
         steps(y, U);
         y.feed(2);
         // To 1 it would be 29 + 35 steps round.
-        T.due("order behind it", safe(y), "1");
+        T.due("order behind it", Scenes.safe(y), "1");
     }
 
     private static void roomForTheGrowth() {
         int[][] dues = {{0, 1, 1}, {1, 1, 1}, {2, 1, 0}, {3, 6, 1}, {4, 6, 0}, {20, 6, 0}};
         for (int[] due : dues) {
-            Coilworm x = oneBlock();
+            Coilworm x = Scenes.oneBlock();
             x.begin(0, due[0]);
             x.feed(due[1]);
             T.due("isSafe(1), owing " + due[0] + ", the feed at " + due[1], x.isSafe(R), due[2] == 1);
         }
-        Coilworm y = oneBlock();
+        Coilworm y = Scenes.oneBlock();
         y.begin(0, 0);
         y.feed(6);
         T.due("isSafe(2), 3 left for 2", y.isSafe(D), true);
-        Coilworm z = oneBlock();
+        Coilworm z = Scenes.oneBlock();
         z.begin(0, 1);
         z.feed(6);
         T.due("isSafe(2), 0 left for 2", z.isSafe(D), false);
-        Coilworm w = oneBlock();
+        Coilworm w = Scenes.oneBlock();
         w.begin(0, 1);
         w.feed(0);
         T.due("isSafe(2), 0 left for 0", w.isSafe(D), true);
-    }
-
-    private static void safeRefused() {
-        Coilworm x = new Coilworm();
-        T.state("isSafe(0) without a worm", x, () -> x.isSafe(0));
-        T.range("isSafe(4) without a worm", x, () -> x.isSafe(4));
-        x.begin(0, 0);
-        x.feed(35);
-        for (int direction : new int[] {-1, 4, Integer.MIN_VALUE, Integer.MAX_VALUE}) {
-            T.range("isSafe(" + direction + ")", x, () -> x.isSafe(direction));
-        }
-        x.step(U);
-        T.state("isSafe(1) of a dead worm", x, () -> x.isSafe(R));
-        T.range("isSafe(-1) of a dead worm", x, () -> x.isSafe(-1));
     }
 
     private static void playsTheFarthest() {
@@ -219,7 +184,7 @@ public final class PlayerTest {
         w.begin(14, 0);
         w.feed(7);
         // The feed is 34 away; 8, above, is 33 away, and 15 and 20, which are safe too, are 1 and 7 away.
-        T.due("safe", safe(w), "012");
+        T.due("safe", Scenes.safe(w), "012");
         T.due("play(1)", w.play(1), 1);
         T.due("head", w.bodyAt(0), 8);
         Coilworm z = new Coilworm();
@@ -233,7 +198,7 @@ public final class PlayerTest {
     }
 
     private static void playsUntilNoneIsSafe() {
-        Coilworm x = oneBlock();
+        Coilworm x = Scenes.oneBlock();
         x.begin(0, 0);
         T.due("play(50) without a feed", x.play(50), 0);
         x.feed(1);
@@ -277,19 +242,5 @@ public final class PlayerTest {
         int made = y.play(50);
         T.due("play(50) of a long row", made, 50);
         T.due("play(50) leaves feeds", y.feeds() > 0, true);
-    }
-
-    private static void playRefused() {
-        Coilworm x = new Coilworm();
-        T.state("play(1) without a worm", x, () -> x.play(1));
-        T.argument("play(0) without a worm", x, () -> x.play(0));
-        x.begin(0, 0);
-        x.feed(35);
-        for (int most : new int[] {0, -1, 51, Integer.MIN_VALUE, Integer.MAX_VALUE}) {
-            T.argument("play(" + most + ")", x, () -> x.play(most));
-        }
-        x.step(U);
-        T.state("play(50) of a dead worm", x, () -> x.play(50));
-        T.argument("play(51) of a dead worm", x, () -> x.play(51));
     }
 }

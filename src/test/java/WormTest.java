@@ -8,10 +8,8 @@ public final class WormTest {
 
     public static void main(String[] args) {
         begins();
-        beginsRefused();
         ends();
         feeds();
-        feedsRefused();
         growsAndMoves();
         eats();
         eatsOnlyTheFirst();
@@ -21,43 +19,13 @@ public final class WormTest {
         diesOfItself();
         followsItsTail();
         goesFar();
-        stepsRefused();
-        bodiesRefused();
         T.close();
     }
 
-    private static String body(Coilworm x) {
-        StringBuilder cells = new StringBuilder();
-        for (int place = 0; place < x.length(); place++) {
-            cells.append(place == 0 ? "" : " ").append(x.bodyAt(place));
-        }
-        return cells.toString();
-    }
-
     private static void dueWorm(String name, Coilworm x, String body, int owed, int feeds) {
-        T.due(name + ": body", body(x), body);
+        T.due(name + ": body", Scenes.body(x), body);
         T.due(name + ": owed()", x.owed(), owed);
         T.due(name + ": feeds()", x.feeds(), feeds);
-    }
-
-    /** Steps go to a living worm, one by one, and their answers are told in a row. */
-    private static String steps(Coilworm x, int... directions) {
-        StringBuilder answers = new StringBuilder();
-        for (int direction : directions) {
-            answers.append(answers.length() == 0 ? "" : " ").append(x.step(direction));
-        }
-        return answers.toString();
-    }
-
-    private static Coilworm open(int... blocks) {
-        Coilworm x = new Coilworm();
-        for (int block = 0; block < 9; block++) {
-            x.setWall(block, true);
-        }
-        for (int block : blocks) {
-            x.setWall(block, false);
-        }
-        return x;
     }
 
     private static void begins() {
@@ -77,33 +45,10 @@ public final class WormTest {
         dueWorm("begin(0, 0) without a cycle", z, "0", 0, 0);
     }
 
-    private static void beginsRefused() {
-        Coilworm x = new Coilworm();
-        x.setWall(4, true);
-        for (int cell : new int[] {-1, 36, Integer.MIN_VALUE, Integer.MAX_VALUE}) {
-            T.range("begin(" + cell + ", 0)", x, () -> x.begin(cell, 0));
-            T.range("begin(" + cell + ", 21)", x, () -> x.begin(cell, 21));
-        }
-        for (int owed : new int[] {-1, 21, Integer.MIN_VALUE, Integer.MAX_VALUE}) {
-            T.argument("begin(0, " + owed + ")", x, () -> x.begin(0, owed));
-            T.argument("begin(14, " + owed + "), a wall", x, () -> x.begin(14, owed));
-        }
-        for (int cell : new int[] {14, 15, 20, 21}) {
-            T.state("begin(" + cell + ", 0), a wall", x, () -> x.begin(cell, 0));
-        }
-        x.begin(0, 2);
-        T.state("begin(35, 0) with a worm", x, () -> x.begin(35, 0));
-        T.argument("begin(35, 21) with a worm", x, () -> x.begin(35, 21));
-        T.range("begin(36, 21) with a worm", x, () -> x.begin(36, 21));
-        x.step(U);
-        T.state("begin(35, 0) with a dead worm", x, () -> x.begin(35, 0));
-    }
-
     private static void ends() {
         Coilworm x = new Coilworm();
-        T.state("end() without a worm", x, () -> x.end());
         x.begin(0, 2);
-        T.due("three steps", steps(x, R, R, R), "2 3 3");
+        T.due("three steps", Scenes.steps(x, R, R, R), "2 3 3");
         x.feed(35);
         T.due("end()", x.end(), 3);
         T.due("isAlive()", x.isAlive(), false);
@@ -111,17 +56,16 @@ public final class WormTest {
         dueWorm("behind end()", x, "", 0, 1);
         T.due("isInOrder()", x.isInOrder(), false);
         T.due("reach()", x.reach(), 0);
-        T.state("end() again", x, () -> x.end());
         x.begin(2, 7);
         T.due("isAlive() of the next one", x.isAlive(), true);
         dueWorm("the next one", x, "2", 7, 1);
-        T.due("a step into the rim", steps(x, U), "0");
+        T.due("a step into the rim", Scenes.steps(x, U), "0");
         T.due("owed() of the dead one", x.owed(), 7);
         T.due("end() of the dead one", x.end(), 1);
         T.due("owed()", x.owed(), 0);
         x.begin(3, 0);
         T.due("isAlive() of the one behind the dead one", x.isAlive(), true);
-        T.due("where the first one was", steps(x, L, L, L), "1 1 1");
+        T.due("where the first one was", Scenes.steps(x, L, L, L), "1 1 1");
     }
 
     private static void feeds() {
@@ -132,44 +76,26 @@ public final class WormTest {
             T.due("feed() number " + count, x.feed(count < 39 ? 35 : 2), count);
             T.due("feeds()", x.feeds(), count);
         }
-        T.state("feed(35) with 40", x, () -> x.feed(35));
-        T.range("feed(36) with 40", x, () -> x.feed(36));
         x.begin(34, 0);
-        T.due("eating one", steps(x, R), "1");
+        T.due("eating one", Scenes.steps(x, R), "1");
         T.due("feeds()", x.feeds(), 39);
         T.due("feed(20) again", x.feed(20), 40);
-        T.state("feed(20) with 40 again", x, () -> x.feed(20));
-    }
-
-    private static void feedsRefused() {
-        Coilworm x = new Coilworm();
-        x.setWall(8, true);
-        for (int cell : new int[] {-1, 36, Integer.MIN_VALUE, Integer.MAX_VALUE}) {
-            T.range("feed(" + cell + ")", x, () -> x.feed(cell));
-        }
-        for (int cell : new int[] {28, 29, 34, 35}) {
-            T.state("feed(" + cell + "), a wall", x, () -> x.feed(cell));
-        }
-        x.begin(0, 0);
-        T.due("feed(0) on the worm", x.feed(0), 1);
-        x.step(U);
-        T.due("feed(1) with a dead worm", x.feed(1), 2);
     }
 
     private static void growsAndMoves() {
         Coilworm x = new Coilworm();
         x.begin(14, 2);
-        T.due("steps", steps(x, R), "2");
+        T.due("steps", Scenes.steps(x, R), "2");
         dueWorm("one step", x, "15 14", 1, 0);
-        T.due("steps", steps(x, D), "3");
+        T.due("steps", Scenes.steps(x, D), "3");
         dueWorm("two steps", x, "21 15 14", 0, 0);
-        T.due("steps", steps(x, L), "3");
+        T.due("steps", Scenes.steps(x, L), "3");
         dueWorm("three steps", x, "20 21 15", 0, 0);
-        T.due("steps", steps(x, D, R), "3 3");
+        T.due("steps", Scenes.steps(x, D, R), "3 3");
         dueWorm("five steps", x, "27 26 20", 0, 0);
         Coilworm y = new Coilworm();
         y.begin(14, 0);
-        T.due("up", steps(y, U), "1");
+        T.due("up", Scenes.steps(y, U), "1");
         dueWorm("up", y, "8", 0, 0);
         T.due("isAlive()", y.isAlive(), true);
     }
@@ -179,16 +105,16 @@ public final class WormTest {
         x.feed(1);
         x.feed(3);
         x.begin(0, 0);
-        T.due("steps", steps(x, R), "1");
+        T.due("steps", Scenes.steps(x, R), "1");
         dueWorm("the meal grows later", x, "1", 2, 1);
-        T.due("steps", steps(x, R, R), "2 3");
+        T.due("steps", Scenes.steps(x, R, R), "2 3");
         dueWorm("the second meal", x, "3 2 1", 2, 0);
-        T.due("steps", steps(x, R, R, D), "4 5 5");
+        T.due("steps", Scenes.steps(x, R, R, D), "4 5 5");
         dueWorm("behind both", x, "11 5 4 3 2", 0, 0);
         Coilworm y = new Coilworm();
         y.begin(0, 20);
         y.feed(6);
-        T.due("steps", steps(y, D), "2");
+        T.due("steps", Scenes.steps(y, D), "2");
         dueWorm("1 less and 2 more", y, "6 0", 21, 0);
     }
 
@@ -199,13 +125,13 @@ public final class WormTest {
         x.feed(2);
         x.feed(2);
         x.begin(0, 0);
-        T.due("steps", steps(x, R), "1");
+        T.due("steps", Scenes.steps(x, R), "1");
         dueWorm("past the second feed", x, "1", 0, 4);
-        T.due("steps", steps(x, R), "1");
+        T.due("steps", Scenes.steps(x, R), "1");
         dueWorm("the first one", x, "2", 2, 3);
-        T.due("steps", steps(x, D, L, U), "2 3 3");
+        T.due("steps", Scenes.steps(x, D, L, U), "2 3 3");
         dueWorm("then the second one", x, "1 7 8", 2, 2);
-        T.due("steps", steps(x, R), "4");
+        T.due("steps", Scenes.steps(x, R), "4");
         dueWorm("one of two on a cell", x, "2 1 7 8", 3, 1);
     }
 
@@ -239,7 +165,7 @@ public final class WormTest {
     }
 
     private static void dueDeath(String name, Coilworm x, int direction) {
-        String body = body(x);
+        String body = Scenes.body(x);
         int owed = x.owed();
         int feeds = x.feeds();
         T.due(name, x.step(direction), 0);
@@ -290,40 +216,40 @@ public final class WormTest {
     private static void diesOfItself() {
         Coilworm x = new Coilworm();
         x.begin(0, 20);
-        T.due("steps", steps(x, R, D), "2 3");
+        T.due("steps", Scenes.steps(x, R, D), "2 3");
         x.feed(1);
         dueDeath("back on its neck", x, U);
         Coilworm y = new Coilworm();
         y.begin(0, 4);
-        T.due("steps", steps(y, R, D, L), "2 3 4");
+        T.due("steps", Scenes.steps(y, R, D, L), "2 3 4");
         dueDeath("on the tail that stays", y, U);
         Coilworm z = new Coilworm();
         z.begin(0, 2);
-        T.due("steps", steps(z, R), "2");
+        T.due("steps", Scenes.steps(z, R), "2");
         dueDeath("two cells, and it grows", z, L);
     }
 
     private static void followsItsTail() {
         Coilworm x = new Coilworm();
         x.begin(0, 3);
-        T.due("steps", steps(x, R, D, L), "2 3 4");
+        T.due("steps", Scenes.steps(x, R, D, L), "2 3 4");
         dueWorm("round", x, "6 7 1 0", 0, 0);
-        T.due("on the tail that is left", steps(x, U), "4");
+        T.due("on the tail that is left", Scenes.steps(x, U), "4");
         dueWorm("round", x, "0 6 7 1", 0, 0);
         Coilworm y = new Coilworm();
         y.begin(0, 1);
-        T.due("two cells turn", steps(y, R, L, R), "2 2 2");
+        T.due("two cells turn", Scenes.steps(y, R, L, R), "2 2 2");
         dueWorm("two cells", y, "1 0", 0, 0);
     }
 
     private static void goesFar() {
-        Coilworm x = open(0);
+        Coilworm x = Scenes.open(0);
         x.begin(0, 2);
         for (int round = 0; round < 40; round++) {
-            T.due("round " + round, steps(x, R, D, L, U), round == 0 ? "2 3 3 3" : "3 3 3 3");
+            T.due("round " + round, Scenes.steps(x, R, D, L, U), round == 0 ? "2 3 3 3" : "3 3 3 3");
         }
         dueWorm("behind 160 steps", x, "0 6 7", 0, 0);
-        Coilworm y = open(0);
+        Coilworm y = Scenes.open(0);
         y.begin(0, 0);
         for (int round = 0; round < 70; round++) {
             y.feed(round % 2 == 0 ? 1 : 0);
@@ -334,33 +260,5 @@ public final class WormTest {
             y.end();
             y.begin(cell, 0);
         }
-    }
-
-    private static void stepsRefused() {
-        Coilworm x = new Coilworm();
-        T.state("step(0) without a worm", x, () -> x.step(0));
-        T.range("step(4) without a worm", x, () -> x.step(4));
-        x.begin(0, 0);
-        for (int direction : new int[] {-1, 4, Integer.MIN_VALUE, Integer.MAX_VALUE}) {
-            T.range("step(" + direction + ")", x, () -> x.step(direction));
-        }
-        x.step(U);
-        T.state("step(1) of a dead worm", x, () -> x.step(R));
-        T.range("step(-1) of a dead worm", x, () -> x.step(-1));
-    }
-
-    private static void bodiesRefused() {
-        Coilworm x = new Coilworm();
-        T.range("bodyAt(0) without a worm", x, () -> x.bodyAt(0));
-        x.begin(0, 1);
-        x.step(R);
-        for (int place : new int[] {-1, 2, 36, Integer.MIN_VALUE, Integer.MAX_VALUE}) {
-            T.range("bodyAt(" + place + ")", x, () -> x.bodyAt(place));
-        }
-        x.step(U);
-        T.due("bodyAt(1) of a dead worm", x.bodyAt(1), 0);
-        T.range("bodyAt(2) of a dead worm", x, () -> x.bodyAt(2));
-        x.end();
-        T.range("bodyAt(0) behind end()", x, () -> x.bodyAt(0));
     }
 }
