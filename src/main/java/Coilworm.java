@@ -545,7 +545,7 @@ public final class Coilworm {
         }
 
         int firstCell() {
-            return size > 0 ? cellAfter(0) : NONE;
+            return size > 0 ? at(cells, first) : NONE;
         }
 
         private int cellAfter(int ahead) {

@@ -162,6 +162,7 @@ public final class BoardEdgesTest {
     private static void setWallsRefused() {
         setWallOutOfRange();
         setWallOverAFeed();
+        setWallOverTheLastOfTheRow();
         setWallOverTheLastOfAFullRow();
         setWallOverAFeedThatWasOnlyForeseen();
         setWallWithAWorm();
@@ -177,9 +178,18 @@ public final class BoardEdgesTest {
 
     private static void setWallOverAFeed() {
         for (int cell : new int[] {14, 15, 20, 21}) {
-            Checks.Maker scene = () -> fed(cell);
+            Checks.Maker scene = () -> Scenes.fed(cell);
             T.state("a feed on " + cell + ": setWall(4, true)", scene, x -> x.setWall(4, true));
             T.state("a feed on " + cell + ": setWall(4, false)", scene, x -> x.setWall(4, false));
+        }
+    }
+
+    private static void setWallOverTheLastOfTheRow() {
+        for (int feeds = 1; feeds < 40; feeds++) {
+            int others = feeds - 1;
+            Checks.Maker scene = () -> Scenes.fedBehind(others, 21);
+            T.state("the last one of " + feeds + " there: setWall(4, true)", scene, x -> x.setWall(4, true));
+            T.due(feeds + " feeds, none there: setWall(1, true)", scene.make().setWall(1, true), false);
         }
     }
 
@@ -191,7 +201,7 @@ public final class BoardEdgesTest {
 
     private static void setWallOverAFeedThatWasOnlyForeseen() {
         Checks.Maker scene = () -> {
-            Coilworm x = fed(15);
+            Coilworm x = Scenes.fed(15);
             x.begin(14, 0);
             x.isSafe(R);
             x.livesFor(6);
@@ -213,12 +223,6 @@ public final class BoardEdgesTest {
     private static void setWallOutOfRangeFirst() {
         T.range("a worm: setWall(9, true)", Scenes::living, x -> x.setWall(9, true));
         T.range("a dead worm: setWall(-1, false)", Scenes::dead, x -> x.setWall(-1, false));
-    }
-
-    private static Coilworm fed(int cell) {
-        Coilworm x = new Coilworm();
-        x.feed(cell);
-        return x;
     }
 
     // ---- promise 3: setLink

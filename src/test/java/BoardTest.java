@@ -1,38 +1,13 @@
-/** Promises 1 to 6: the new object, walls, links and the tree. */
+/** Promises 1 to 6: walls, links and the tree. */
 public final class BoardTest {
     private static final Checks T = new Checks("BoardTest");
 
     public static void main(String[] args) {
-        newObject();
         walls();
         weights();
         trees();
         cycles();
         T.close();
-    }
-
-    private static void newObject() {
-        Coilworm x = new Coilworm();
-        T.due("walls of a new object", Scenes.wallCells(x), "");
-        T.due("tree of a new object", Scenes.tree(x), "0 1 2 3 4 5 6 9");
-        T.due("hasCycle()", x.hasCycle(), true);
-        T.due("isAlive()", x.isAlive(), false);
-        T.due("length()", x.length(), 0);
-        T.due("owed()", x.owed(), 0);
-        T.due("feeds()", x.feeds(), 0);
-        T.due("reach()", x.reach(), 0);
-        T.due("isInOrder()", x.isInOrder(), false);
-        for (int link = 0; link < 12; link++) {
-            T.due("setLink(" + link + ", 0) at first", x.setLink(link, 0), 0);
-        }
-        for (int block = 0; block < 9; block++) {
-            T.due("setWall(" + block + ", false) at first", x.setWall(block, false), false);
-        }
-        Coilworm other = new Coilworm();
-        x.setWall(3, true);
-        x.begin(0, 0);
-        T.due("another object's walls", Scenes.wallCells(other), "");
-        T.due("another object's worm", other.isAlive(), false);
     }
 
     private static void walls() {
@@ -68,6 +43,7 @@ public final class BoardTest {
 
     private static void trees() {
         Coilworm x = new Coilworm();
+        T.due("all as heavy", Scenes.tree(x), "0 1 2 3 4 5 6 9");
         x.setLink(0, 5);
         x.setLink(6, 9);
         T.due("heavy links last", Scenes.tree(x), "0 1 2 3 4 5 7 9");

@@ -16,32 +16,6 @@ public final class ForesightEdgesTest {
         T.close();
     }
 
-    private static Coilworm begun(int cell, int owed, int... feeds) {
-        Coilworm x = new Coilworm();
-        x.begin(cell, owed);
-        for (int feed : feeds) {
-            x.feed(feed);
-        }
-        return x;
-    }
-
-    private static Coilworm inOneBlock(int owed, int... feeds) {
-        Coilworm x = Scenes.oneBlock();
-        x.begin(0, owed);
-        for (int feed : feeds) {
-            x.feed(feed);
-        }
-        return x;
-    }
-
-    private static Coilworm filledWith(int... feeds) {
-        Coilworm x = Scenes.filled();
-        for (int feed : feeds) {
-            x.feed(feed);
-        }
-        return x;
-    }
-
     // ---- promise 22: reach
 
     private static void reaches() {
@@ -66,12 +40,12 @@ public final class ForesightEdgesTest {
 
     private static void reachOfOneCell() {
         for (int cell = 0; cell < 36; cell++) {
-            T.due("one cell on " + cell + ": reach()", begun(cell, 0).reach(), 35);
+            T.due("one cell on " + cell + ": reach()", Scenes.begun(cell, 0).reach(), 35);
         }
     }
 
     private static void reachDoesNotCountTheTail() {
-        Coilworm x = begun(0, 1);
+        Coilworm x = Scenes.begun(0, 1);
         x.step(R);
         T.due("two cells that owe nothing: reach()", x.reach(), 34);
     }
@@ -79,7 +53,7 @@ public final class ForesightEdgesTest {
     private static void reachOnAFullBoard() {
         T.due("all cells: reach()", Scenes.filled().reach(), 0);
         T.due("all cells, and it grows: reach()", Scenes.overfilled().reach(), 0);
-        Coilworm x = inOneBlock(3);
+        Coilworm x = Scenes.inOneBlock(3);
         Scenes.steps(x, R, D);
         T.due("three of four: reach()", x.reach(), 1);
         x.step(L);
@@ -131,10 +105,10 @@ public final class ForesightEdgesTest {
     }
 
     private static void reachShutInByTheBody() {
-        Coilworm x = begun(6, 3);
+        Coilworm x = Scenes.begun(6, 3);
         Scenes.steps(x, R, U, L);
         T.due("in the corner, all round is body: reach()", x.reach(), 0);
-        Coilworm y = begun(12, 4);
+        Coilworm y = Scenes.begun(12, 4);
         Scenes.steps(y, R, U, U, L);
         T.due("one cell is left in the corner: reach()", y.reach(), 1);
     }
@@ -161,30 +135,30 @@ public final class ForesightEdgesTest {
     }
 
     private static void livesTheLeast() {
-        T.due("livesFor(1)", begun(14, 20).livesFor(1), 1);
+        T.due("livesFor(1)", Scenes.begun(14, 20).livesFor(1), 1);
     }
 
     private static void livesTheMost() {
-        dueLives("without walls", begun(14, 20), "1 2 3 4 5 6");
-        dueLives("in the corner", begun(35, 0), "1 2 3 4 5 6");
+        dueLives("without walls", Scenes.begun(14, 20), "1 2 3 4 5 6");
+        dueLives("in the corner", Scenes.begun(35, 0), "1 2 3 4 5 6");
     }
 
     private static void livesForNone() {
         dueLives("all cells, and it grows", Scenes.overfilled(), "0 0 0 0 0 0");
-        Coilworm x = begun(2, 20);
+        Coilworm x = Scenes.begun(2, 20);
         Scenes.steps(x, D, L, L, U, R);
         dueLives("shut in by the body", x, "0 0 0 0 0 0");
     }
 
     private static void livesUntilTheBlockIsFull() {
-        dueLives("one block, owing 20", inOneBlock(20), "1 2 3 3 3 3");
-        dueLives("one block, owing 4", inOneBlock(4), "1 2 3 3 3 3");
-        dueLives("one block, owing 3", inOneBlock(3), "1 2 3 4 5 6");
+        dueLives("one block, owing 20", Scenes.inOneBlock(20), "1 2 3 3 3 3");
+        dueLives("one block, owing 4", Scenes.inOneBlock(4), "1 2 3 3 3 3");
+        dueLives("one block, owing 3", Scenes.inOneBlock(3), "1 2 3 4 5 6");
     }
 
     private static void livesByTheTailThatIsLeft() {
         // In the block 0, with the way out shut behind it: four cells go round and round.
-        Coilworm x = inOneBlock(3);
+        Coilworm x = Scenes.inOneBlock(3);
         Scenes.steps(x, R, D, L);
         dueLives("one block, full", x, "1 2 3 4 5 6");
     }
@@ -195,16 +169,16 @@ public final class ForesightEdgesTest {
 
     private static void livesUntilAMealOnAFullBoard() {
         // Behind the meal it owes 2, and the tail stays.
-        dueLives("all cells, the feed 1 away", filledWith(0), "1 1 1 1 1 1");
-        dueLives("all cells, the feed 3 away", filledWith(2), "1 2 3 3 3 3");
-        dueLives("all cells, the feed 5 away", filledWith(4), "1 2 3 4 5 5");
-        dueLives("all cells, the feed 6 away", filledWith(5), "1 2 3 4 5 6");
+        dueLives("all cells, the feed 1 away", Scenes.filledWith(0), "1 1 1 1 1 1");
+        dueLives("all cells, the feed 3 away", Scenes.filledWith(2), "1 2 3 3 3 3");
+        dueLives("all cells, the feed 5 away", Scenes.filledWith(4), "1 2 3 4 5 5");
+        dueLives("all cells, the feed 6 away", Scenes.filledWith(5), "1 2 3 4 5 6");
     }
 
     private static void livesByAvoidingAMeal() {
         // Each meal on the way would make it too long; there and back, it need not eat.
-        dueLives("one cell in one block", inOneBlock(0, 7, 7, 7), "1 2 3 4 5 6");
-        dueLives("three cells in one block, and a meal", inOneBlock(2, 1), "1 2 3 4 4 4");
+        dueLives("one cell in one block", Scenes.inOneBlock(0, 7, 7, 7), "1 2 3 4 5 6");
+        dueLives("three cells in one block, and a meal", Scenes.inOneBlock(2, 1), "1 2 3 4 4 4");
     }
 
     private static void livesForsRefused() {
@@ -244,8 +218,8 @@ public final class ForesightEdgesTest {
     }
 
     private static void fewestWithoutAFeed() {
-        dueFewest("no feed", begun(14, 0), Coilworm.NONE);
-        Coilworm x = begun(0, 0, 1);
+        dueFewest("no feed", Scenes.begun(14, 0), Coilworm.NONE);
+        Coilworm x = Scenes.begun(0, 0, 1);
         x.step(R);
         dueFewest("the only feed is eaten", x, Coilworm.NONE);
     }
@@ -255,8 +229,8 @@ public final class ForesightEdgesTest {
         int[] cells = {6, 12, 18, 24, 30, 31, 32};
         for (int steps = 1; steps <= 7; steps++) {
             int due = steps < 7 ? steps : Coilworm.NONE;
-            dueFewest(steps + " steps", begun(0, 0, cells[steps - 1]), due);
-            dueFewest(steps + " steps, owing 20", begun(0, 20, cells[steps - 1]), due);
+            dueFewest(steps + " steps", Scenes.begun(0, 0, cells[steps - 1]), due);
+            dueFewest(steps + " steps, owing 20", Scenes.begun(0, 20, cells[steps - 1]), due);
         }
     }
 
@@ -265,7 +239,7 @@ public final class ForesightEdgesTest {
             for (int to = 0; to < 36; to++) {
                 int steps = Math.abs(from / 6 - to / 6) + Math.abs(from % 6 - to % 6);
                 int due = from == to ? 2 : steps > 6 ? Coilworm.NONE : steps;
-                dueFewest("from " + from + " to " + to, begun(from, 0, to), due);
+                dueFewest("from " + from + " to " + to, Scenes.begun(from, 0, to), due);
             }
         }
     }
@@ -273,11 +247,11 @@ public final class ForesightEdgesTest {
     private static void fewestOnTheHead() {
         int[] dues = {2, 2, 4, 4, 6, 6, Coilworm.NONE, Coilworm.NONE};
         for (int owed = 0; owed < dues.length; owed++) {
-            dueFewest("on the head, owing " + owed, begun(14, owed, 14), dues[owed]);
+            dueFewest("on the head, owing " + owed, Scenes.begun(14, owed, 14), dues[owed]);
         }
         int[] inABlock = {2, 2, 4, 4, Coilworm.NONE};
         for (int owed = 0; owed < inABlock.length; owed++) {
-            dueFewest("one block, on the head, owing " + owed, inOneBlock(owed, 0), inABlock[owed]);
+            dueFewest("one block, on the head, owing " + owed, Scenes.inOneBlock(owed, 0), inABlock[owed]);
         }
     }
 
@@ -306,9 +280,9 @@ public final class ForesightEdgesTest {
     }
 
     private static void fewestOfTwoFeeds() {
-        dueFewest("the first is farther", begun(0, 0, 3, 1), 3);
-        dueFewest("the second is too far", begun(0, 0, 1, 35), 1);
-        dueFewest("the first is too far", begun(0, 0, 35, 1), Coilworm.NONE);
+        dueFewest("the first is farther", Scenes.begun(0, 0, 3, 1), 3);
+        dueFewest("the second is too far", Scenes.begun(0, 0, 1, 35), 1);
+        dueFewest("the first is too far", Scenes.begun(0, 0, 35, 1), Coilworm.NONE);
     }
 
     private static void fewestOfAFullRow() {
@@ -324,22 +298,22 @@ public final class ForesightEdgesTest {
         int[] cells = {0, 1, 2, 3, 4, 5, 11};
         for (int steps = 1; steps <= 7; steps++) {
             int due = steps < 7 ? steps : Coilworm.NONE;
-            dueFewest("all cells, the feed " + steps + " away", filledWith(cells[steps - 1]), due);
+            dueFewest("all cells, the feed " + steps + " away", Scenes.filledWith(cells[steps - 1]), due);
         }
-        dueFewest("all cells, the feed on the head", filledWith(6), Coilworm.NONE);
+        dueFewest("all cells, the feed on the head", Scenes.filledWith(6), Coilworm.NONE);
         Coilworm x = Scenes.overfilled();
         x.feed(0);
         dueFewest("all cells, and it grows, the feed on the tail", x, Coilworm.NONE);
     }
 
     private static void fewestWhereItDiesFirst() {
-        Coilworm x = begun(2, 20, 35);
+        Coilworm x = Scenes.begun(2, 20, 35);
         Scenes.steps(x, D, L, L, U, R);
         dueFewest("no step left", x, Coilworm.NONE);
     }
 
     private static void fewestBesideTheBody() {
-        Coilworm x = begun(7, 20, 6);
+        Coilworm x = Scenes.begun(7, 20, 6);
         Scenes.steps(x, U, R, D, D, L);
         // The head is on 13; 7, which lies between it and 6, is the tail and stays.
         dueFewest("beside the body", x, 2);
@@ -351,10 +325,10 @@ public final class ForesightEdgesTest {
     }
 
     private static void fewestOnTheTail() {
-        Coilworm x = inOneBlock(3, 0);
+        Coilworm x = Scenes.inOneBlock(3, 0);
         Scenes.steps(x, R, D, L);
         dueFewest("the feed on a tail that is left", x, 1);
-        Coilworm y = inOneBlock(4, 0);
+        Coilworm y = Scenes.inOneBlock(4, 0);
         Scenes.steps(y, R, D, L);
         dueFewest("the feed on a tail that stays", y, Coilworm.NONE);
     }
@@ -363,7 +337,7 @@ public final class ForesightEdgesTest {
         // Round a block; when it comes to the neck, that is left just then, or else it has to go farther round.
         int[] dues = {3, 3, 5};
         for (int owed = 0; owed < dues.length; owed++) {
-            Coilworm x = begun(0, owed + 2);
+            Coilworm x = Scenes.begun(0, owed + 2);
             Scenes.steps(x, R, R);
             x.feed(1);
             dueFewest("the feed on the neck, owing " + owed, x, dues[owed]);
@@ -388,7 +362,7 @@ public final class ForesightEdgesTest {
     }
 
     private static void askingChangesNothing() {
-        Checks.Maker[] scenes = {Scenes::living, () -> filledWith(0, 1), () -> inOneBlock(2, 1, 7, 6, 0)};
+        Checks.Maker[] scenes = {Scenes::living, () -> Scenes.filledWith(0, 1), () -> Scenes.inOneBlock(2, 1, 7, 6, 0)};
         for (Checks.Maker scene : scenes) {
             Coilworm x = scene.make();
             for (int most = 1; most <= 6; most++) {

@@ -12,7 +12,6 @@ public final class ForesightTest {
         livesByEating();
         fewestOnOpenBoard();
         fewestRoundThings();
-        fewestOnOwnCell();
         fewestSeeksTheFirst();
         T.close();
     }
@@ -180,16 +179,6 @@ public final class ForesightTest {
         w.begin(0, 4);
         steps(w, R, D, L);
         dueFewest("on the tail that stays", w, -1);
-    }
-
-    private static void fewestOnOwnCell() {
-        int[] dues = {2, 2, 4, 4, 6, 6, -1, -1};
-        for (int owed = 0; owed < dues.length; owed++) {
-            Coilworm x = new Coilworm();
-            x.feed(0);
-            x.begin(0, owed);
-            dueFewest("the feed on the head, owing " + owed, x, dues[owed]);
-        }
     }
 
     private static void fewestSeeksTheFirst() {

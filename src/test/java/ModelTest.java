@@ -36,12 +36,24 @@ public final class ModelTest {
         int shutOf = 1 + next(12);
         int wallsOf = 2 + next(12);
         int owing = 1 + next(21);
-        for (int count = 0; count < CALLS; count++) {
+        int walled = run % 3 == 0 ? makeSmall(x, y) : 0;
+        for (int count = walled; count < CALLS; count++) {
             int which = pick(y.isAlive() ? LIVING : OTHERS);
             Object[] arguments = arguments(NAMES[which], y, shutOf, wallsOf, owing);
             String call = "run " + run + ", call " + count + ": " + NAMES[which] + Arrays.toString(arguments);
             T.due(call, answer(x, NAMES[which], arguments), answer(y, NAMES[which], arguments));
         }
+    }
+
+    /** One, two or three blocks are no walls, so that worms fill the board; tells how many calls that took. */
+    private static int makeSmall(Coilworm x, PlainCoilworm y) {
+        int blocks = 1 + next(3);
+        for (int block = 0; block < 9; block++) {
+            boolean isOpen = block == 4 || block == 5 && blocks > 1 || block == 2 && blocks > 2;
+            x.setWall(block, !isOpen);
+            y.setWall(block, !isOpen);
+        }
+        return 9;
     }
 
     private static int pick(int[] shares) {
@@ -56,7 +68,8 @@ public final class ModelTest {
 
     private static int within(int low, int high) {
         if (next(60) == 0) {
-            return next(2) == 0 ? low - 1 : high + 1;
+            int[] outside = {low - 1, high + 1, Scenes.LOWEST, Scenes.HIGHEST};
+            return outside[next(4)];
         }
         return low + next(high - low + 1);
     }

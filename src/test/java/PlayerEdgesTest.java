@@ -15,33 +15,6 @@ public final class PlayerEdgesTest {
         T.close();
     }
 
-    private static Coilworm begun(int cell, int owed, int... feeds) {
-        Coilworm x = new Coilworm();
-        x.begin(cell, owed);
-        for (int feed : feeds) {
-            x.feed(feed);
-        }
-        return x;
-    }
-
-    private static Coilworm inOneBlock(int owed, int... feeds) {
-        Coilworm x = Scenes.oneBlock();
-        x.begin(0, owed);
-        for (int feed : feeds) {
-            x.feed(feed);
-        }
-        return x;
-    }
-
-    /** A worm on all cells, and feeds. */
-    private static Coilworm filledWith(int... feeds) {
-        Coilworm x = Scenes.filled();
-        for (int feed : feeds) {
-            x.feed(feed);
-        }
-        return x;
-    }
-
     // ---- promise 14: play
 
     private static void plays() {
@@ -59,7 +32,7 @@ public final class PlayerEdgesTest {
     }
 
     private static void playsTheLeast() {
-        Coilworm x = begun(0, 0, 5);
+        Coilworm x = Scenes.begun(0, 0, 5);
         T.due("play(1)", x.play(1), 1);
         T.due("behind play(1)", Scenes.worm(x), "1 +0 feeds 1");
     }
@@ -92,7 +65,7 @@ public final class PlayerEdgesTest {
     }
 
     private static void playsWithoutAFeed() {
-        Coilworm x = begun(0, 0);
+        Coilworm x = Scenes.begun(0, 0);
         T.due("no feed: play(50)", x.play(50), 0);
         T.due("no feed, behind play(50)", Scenes.worm(x), "0 +0 feeds 0");
     }
@@ -106,43 +79,43 @@ public final class PlayerEdgesTest {
     }
 
     private static void playsWithNoneSafe() {
-        Coilworm x = inOneBlock(4, 0);
+        Coilworm x = Scenes.inOneBlock(4, 0);
         T.due("none safe: play(50)", x.play(50), 0);
         T.due("none safe: isAlive()", x.isAlive(), true);
         T.due("none safe, behind play(50)", Scenes.worm(x), "0 +4 feeds 1");
     }
 
     private static void playsUntilTheRowIsEmpty() {
-        Coilworm x = begun(0, 0, 1, 2);
+        Coilworm x = Scenes.begun(0, 0, 1, 2);
         T.due("two feeds: play(3)", x.play(3), 2);
         T.due("both are eaten", Scenes.worm(x), "2 1 +3 feeds 0");
     }
 
     private static void playsOverTheLastPlaceToTheFirst() {
         // From the place 33 by 34, 35, 0, 1 and 2 to 3: all that lies beside the way is farther than the feed.
-        Coilworm x = begun(18, 0, 3);
+        Coilworm x = Scenes.begun(18, 0, 3);
         T.due("from the place 33 to 3: play(50)", x.play(50), 6);
         T.due("behind that", Scenes.worm(x), "3 +2 feeds 0");
     }
 
     private static void playsToTheFarthest() {
         // 13 is 35 away from 14, 8 is 33, 20 is 7 and 15 is 1.
-        Coilworm x = begun(14, 0, 13);
+        Coilworm x = Scenes.begun(14, 0, 13);
         T.due("the feed 35 away: play(1)", x.play(1), 1);
         T.due("to 13", x.bodyAt(0), 13);
-        Coilworm y = begun(14, 0, 7);
+        Coilworm y = Scenes.begun(14, 0, 7);
         T.due("the feed 34 away: play(1)", y.play(1), 1);
         T.due("to 8", y.bodyAt(0), 8);
-        Coilworm z = begun(14, 0, 19);
+        Coilworm z = Scenes.begun(14, 0, 19);
         T.due("the feed 8 away: play(1)", z.play(1), 1);
         T.due("to 20", z.bodyAt(0), 20);
-        Coilworm w = begun(14, 0, 21);
+        Coilworm w = Scenes.begun(14, 0, 21);
         T.due("the feed 6 away: play(1)", w.play(1), 1);
         T.due("to 15", w.bodyAt(0), 15);
     }
 
     private static void playsUntilTheBoardIsFull() {
-        Coilworm x = inOneBlock(3, 0);
+        Coilworm x = Scenes.inOneBlock(3, 0);
         T.due("to fill the block: play(50)", x.play(50), 3);
         T.due("the block is full", Scenes.worm(x), "6 7 1 0 +0 feeds 1");
         T.due("no room for a meal: play(50)", x.play(50), 0);
@@ -150,12 +123,12 @@ public final class PlayerEdgesTest {
 
     private static void playsOnAFullBoard() {
         // The feed is on the head, 36 away; to eat it would be to owe 2.
-        Coilworm x = filledWith(6);
+        Coilworm x = Scenes.filledWith(6);
         T.due("all cells: play(50)", x.play(50), 35);
         T.due("all cells: the head behind it", x.bodyAt(0), 12);
         T.due("all cells: play(50) again", x.play(50), 0);
         T.due("all cells: still the feed", x.length() + " feeds " + x.feeds(), "36 feeds 1");
-        Coilworm y = filledWith(2);
+        Coilworm y = Scenes.filledWith(2);
         T.due("all cells, the feed 3 away: play(50)", y.play(50), 2);
         T.due("over the last place to the first", y.bodyAt(0) + " " + y.bodyAt(1) + " " + y.bodyAt(2), "1 0 6");
     }
@@ -213,9 +186,9 @@ public final class PlayerEdgesTest {
 
     private static void orderOfOneCell() {
         for (int cell : new int[] {0, 6, 35}) {
-            T.due("one cell on " + cell + ": isInOrder()", begun(cell, 20).isInOrder(), true);
+            T.due("one cell on " + cell + ": isInOrder()", Scenes.begun(cell, 20).isInOrder(), true);
         }
-        T.due("one cell in one block: isInOrder()", inOneBlock(20).isInOrder(), true);
+        T.due("one cell in one block: isInOrder()", Scenes.inOneBlock(20).isInOrder(), true);
     }
 
     private static void orderWithoutACycle() {
@@ -227,10 +200,10 @@ public final class PlayerEdgesTest {
     }
 
     private static void orderOneStepShortOfTheCycle() {
-        Coilworm x = begun(1, 1);
+        Coilworm x = Scenes.begun(1, 1);
         x.step(L);
         T.due("35 of 36: isInOrder()", x.isInOrder(), true);
-        Coilworm y = inOneBlock(1);
+        Coilworm y = Scenes.inOneBlock(1);
         y.step(D);
         T.due("3 of 4: isInOrder()", y.isInOrder(), true);
     }
@@ -257,17 +230,17 @@ public final class PlayerEdgesTest {
 
     private static void orderFarBeyondTheCycle() {
         // Two steps back along the cycle: 35 and 35 of 36.
-        Coilworm x = begun(2, 2);
+        Coilworm x = Scenes.begun(2, 2);
         Scenes.steps(x, L, L);
         T.due("70 of 36: isInOrder()", x.isInOrder(), false);
         // From 0 to 6 it is 35, from 6 to 7 it is 11, and from 7 to 1 it is 27.
-        Coilworm y = begun(0, 3);
+        Coilworm y = Scenes.begun(0, 3);
         Scenes.steps(y, D, R, U);
         T.due("73 of 36: isInOrder()", y.isInOrder(), false);
     }
 
     private static void orderOverTheLastPlaceToTheFirst() {
-        Coilworm x = begun(12, 20);
+        Coilworm x = Scenes.begun(12, 20);
         Scenes.steps(x, U, U, R);
         T.due("from the place 34 to 1: isInOrder()", x.isInOrder(), true);
         Coilworm y = Scenes.oneBlock();
@@ -287,14 +260,14 @@ public final class PlayerEdgesTest {
             x.step(Scenes.ROUND[place % 36]);
             T.due("all cells, the tail on the place " + (place + 2) % 36, x.isInOrder(), true);
         }
-        Coilworm y = inOneBlock(3);
+        Coilworm y = Scenes.inOneBlock(3);
         Scenes.steps(y, D, R, U);
         T.due("one block, full, the other way round: isInOrder()", y.isInOrder(), false);
     }
 
     private static void orderOfADeadWorm() {
         T.due("a dead worm in order: isInOrder()", Scenes.dead().isInOrder(), true);
-        Coilworm x = begun(1, 2);
+        Coilworm x = Scenes.begun(1, 2);
         T.due("it dies", Scenes.steps(x, L, D, L), "2 3 0");
         T.due("a dead worm out of order: isInOrder()", x.isInOrder(), false);
     }
@@ -323,14 +296,14 @@ public final class PlayerEdgesTest {
 
     private static void safeInEachDirection() {
         // On the head, the feed is farther than all.
-        dueSafe("in the middle", begun(14, 0, 14), "0123");
-        dueSafe("in the upper left corner", begun(0, 0, 0), "12");
-        dueSafe("in the lower right corner", begun(35, 0, 35), "03");
+        dueSafe("in the middle", Scenes.begun(14, 0, 14), "0123");
+        dueSafe("in the upper left corner", Scenes.begun(0, 0, 0), "12");
+        dueSafe("in the lower right corner", Scenes.begun(35, 0, 35), "03");
     }
 
     private static void safeWithoutAFeed() {
-        dueSafe("no feed", begun(14, 0), "");
-        Coilworm x = begun(0, 0, 1);
+        dueSafe("no feed", Scenes.begun(14, 0), "");
+        Coilworm x = Scenes.begun(0, 0, 1);
         x.step(R);
         dueSafe("the only feed is eaten", x, "");
     }
@@ -350,26 +323,26 @@ public final class PlayerEdgesTest {
         x.begin(8, 0);
         // Up it is open, at the right too; below is a wall, and at the left a shut link.
         dueSafe("beside a wall and a shut link", x, "01");
-        Coilworm y = begun(0, 20, 1);
+        Coilworm y = Scenes.begun(0, 20, 1);
         y.step(R);
         T.due("onto the neck: isSafe(3)", y.isSafe(L), false);
         T.due("over the rim: isSafe(0)", y.isSafe(U), false);
     }
 
     private static void safeOutOfOrderAhead() {
-        Coilworm x = begun(14, 2, 4);
+        Coilworm x = Scenes.begun(14, 2, 4);
         Scenes.steps(x, U, U);
         T.due("33 and 29 of 36: isInOrder()", x.isInOrder(), false);
         dueSafe("out of order", x, "");
         // A step on, the tail is left and it is in order again; but that is behind the step, not ahead of it.
-        Coilworm y = begun(14, 2, 4);
+        Coilworm y = Scenes.begun(14, 2, 4);
         Scenes.steps(y, U, U, R);
         T.due("behind it: isInOrder()", y.isInOrder(), true);
     }
 
     private static void safeOutOfOrderBehind() {
         // From 8 to 2 it is 29; on to 1, 35 more.
-        Coilworm x = begun(8, 3);
+        Coilworm x = Scenes.begun(8, 3);
         x.step(U);
         x.feed(2);
         T.due("29 and 35 of 36: isSafe(3)", x.isSafe(L), false);
@@ -382,69 +355,69 @@ public final class PlayerEdgesTest {
 
     private static void safeAsFarAsTheFeed() {
         // From 1: 7 is 9 away, at the place 10; 8 is 8 away and 13 is 10.
-        T.due("just as far: isSafe(2)", begun(1, 0, 7).isSafe(D), true);
-        T.due("1 farther: isSafe(2)", begun(1, 0, 8).isSafe(D), false);
-        T.due("1 less far: isSafe(2)", begun(1, 0, 13).isSafe(D), true);
-        T.due("just as far, 1 step: isSafe(1)", begun(1, 0, 2).isSafe(R), true);
-        T.due("the second feed does not count: isSafe(2)", begun(1, 0, 8, 13).isSafe(D), false);
+        T.due("just as far: isSafe(2)", Scenes.begun(1, 0, 7).isSafe(D), true);
+        T.due("1 farther: isSafe(2)", Scenes.begun(1, 0, 8).isSafe(D), false);
+        T.due("1 less far: isSafe(2)", Scenes.begun(1, 0, 13).isSafe(D), true);
+        T.due("just as far, 1 step: isSafe(1)", Scenes.begun(1, 0, 2).isSafe(R), true);
+        T.due("the second feed does not count: isSafe(2)", Scenes.begun(1, 0, 8, 13).isSafe(D), false);
     }
 
     private static void safeWithTheFeedOnTheHead() {
-        T.due("the feed on the head, 35 of 36: isSafe(3)", begun(1, 0, 1).isSafe(L), true);
-        T.due("the feed 35 away: isSafe(3)", begun(1, 0, 0).isSafe(L), true);
-        T.due("the feed 34 away: isSafe(3)", begun(1, 0, 6).isSafe(L), false);
+        T.due("the feed on the head, 35 of 36: isSafe(3)", Scenes.begun(1, 0, 1).isSafe(L), true);
+        T.due("the feed 35 away: isSafe(3)", Scenes.begun(1, 0, 0).isSafe(L), true);
+        T.due("the feed 34 away: isSafe(3)", Scenes.begun(1, 0, 6).isSafe(L), false);
     }
 
     private static void safeOverTheLastPlaceToTheFirst() {
         // From 12 at the place 34, 6 is 1 away, 13 at the place 11 is 13, and 18 is 35; 0 is 2 and 14 is 14.
-        dueSafe("from the place 34, the feed 1 away", begun(12, 0, 6), "0");
-        dueSafe("from the place 34, the feed 2 away", begun(12, 0, 0), "0");
-        dueSafe("from the place 34, the feed 12 away", begun(12, 0, 7), "0");
-        dueSafe("from the place 34, the feed 13 away", begun(12, 0, 13), "01");
-        dueSafe("from the place 34, the feed 35 away", begun(12, 0, 18), "012");
+        dueSafe("from the place 34, the feed 1 away", Scenes.begun(12, 0, 6), "0");
+        dueSafe("from the place 34, the feed 2 away", Scenes.begun(12, 0, 0), "0");
+        dueSafe("from the place 34, the feed 12 away", Scenes.begun(12, 0, 7), "0");
+        dueSafe("from the place 34, the feed 13 away", Scenes.begun(12, 0, 13), "01");
+        dueSafe("from the place 34, the feed 35 away", Scenes.begun(12, 0, 18), "012");
         // From 6, the last place, to 0, the first.
-        dueSafe("from the last place to the first", begun(6, 0, 0), "0");
-        dueSafe("from the last place, the feed on the first but one", begun(6, 0, 1), "0");
+        dueSafe("from the last place to the first", Scenes.begun(6, 0, 0), "0");
+        dueSafe("from the last place, the feed on the first but one", Scenes.begun(6, 0, 1), "0");
     }
 
     private static void safeWithJustRoomEnough() {
         // To 1 it is 1 step of 4, and to 6 it is 3; a growth of 1 is paid by the step itself.
-        T.due("2 left for 2: isSafe(1)", inOneBlock(3, 0).isSafe(R), true);
-        T.due("2 left for 3: isSafe(1)", inOneBlock(4, 0).isSafe(R), false);
-        T.due("0 left for 0: isSafe(2)", inOneBlock(1, 0).isSafe(D), true);
-        T.due("0 left for 1: isSafe(2)", inOneBlock(2, 0).isSafe(D), false);
+        T.due("2 left for 2: isSafe(1)", Scenes.inOneBlock(3, 0).isSafe(R), true);
+        T.due("2 left for 3: isSafe(1)", Scenes.inOneBlock(4, 0).isSafe(R), false);
+        T.due("0 left for 0: isSafe(2)", Scenes.inOneBlock(1, 0).isSafe(D), true);
+        T.due("0 left for 1: isSafe(2)", Scenes.inOneBlock(2, 0).isSafe(D), false);
         // One cell alone: tail and head are one, and 3 are left.
-        T.due("3 left for 0: isSafe(2)", inOneBlock(0, 0).isSafe(D), true);
+        T.due("3 left for 0: isSafe(2)", Scenes.inOneBlock(0, 0).isSafe(D), true);
         // The place of the head does not count, nor that of the tail: 34 are left for 19 and 16 for 19.
-        T.due("34 left for 19: isSafe(1)", begun(0, 20, 0).isSafe(R), true);
-        T.due("16 left: isSafe(2)", begun(9, 17, 9).isSafe(D), true);
+        T.due("34 left for 19: isSafe(1)", Scenes.begun(0, 20, 0).isSafe(R), true);
+        T.due("16 left: isSafe(2)", Scenes.begun(9, 17, 9).isSafe(D), true);
     }
 
     private static void safeWithRoomForAMeal() {
-        T.due("2 left for 2 and no growth: isSafe(1)", inOneBlock(1, 1).isSafe(R), true);
-        T.due("2 left for 1 and 2: isSafe(1)", inOneBlock(2, 1).isSafe(R), false);
-        T.due("3 left for 2: isSafe(2)", inOneBlock(0, 6).isSafe(D), true);
-        T.due("0 left for 2: isSafe(2)", inOneBlock(1, 6).isSafe(D), false);
+        T.due("2 left for 2 and no growth: isSafe(1)", Scenes.inOneBlock(1, 1).isSafe(R), true);
+        T.due("2 left for 1 and 2: isSafe(1)", Scenes.inOneBlock(2, 1).isSafe(R), false);
+        T.due("3 left for 2: isSafe(2)", Scenes.inOneBlock(0, 6).isSafe(D), true);
+        T.due("0 left for 2: isSafe(2)", Scenes.inOneBlock(1, 6).isSafe(D), false);
     }
 
     private static void safeOnAFullBoard() {
-        dueSafe("all cells, the feed on the head", filledWith(6), "0");
-        dueSafe("all cells, the feed 2 away", filledWith(1), "0");
-        dueSafe("all cells, the feed on the tail", filledWith(0), "");
-        dueSafe("all cells, no feed", filledWith(), "");
+        dueSafe("all cells, the feed on the head", Scenes.filledWith(6), "0");
+        dueSafe("all cells, the feed 2 away", Scenes.filledWith(1), "0");
+        dueSafe("all cells, the feed on the tail", Scenes.filledWith(0), "");
+        dueSafe("all cells, no feed", Scenes.filledWith(), "");
         Coilworm x = Scenes.overfilled();
         x.feed(6);
         dueSafe("all cells, and it grows", x, "");
     }
 
     private static void safeChangesNothing() {
-        Coilworm x = inOneBlock(1, 6, 0);
+        Coilworm x = Scenes.inOneBlock(1, 6, 0);
         Scenes.safe(x);
-        T.due("behind isSafe()", Looks.at(x), Looks.at(inOneBlock(1, 6, 0)));
-        Coilworm y = filledWith(0);
+        T.due("behind isSafe()", Looks.at(x), Looks.at(Scenes.inOneBlock(1, 6, 0)));
+        Coilworm y = Scenes.filledWith(0);
         Scenes.safe(y);
         y.isInOrder();
-        T.due("all cells, behind isSafe()", Looks.at(y), Looks.at(filledWith(0)));
+        T.due("all cells, behind isSafe()", Looks.at(y), Looks.at(Scenes.filledWith(0)));
     }
 
     private static void isSafesRefused() {

@@ -49,16 +49,44 @@ final class Scenes {
         return x;
     }
 
-    static Coilworm fullRow() {
+    /** Some feeds on 1, and one more. */
+    static Coilworm fedBehind(int others, int last) {
         Coilworm x = new Coilworm();
-        for (int count = 0; count < 39; count++) {
+        for (int count = 0; count < others; count++) {
             x.feed(1);
         }
-        x.feed(35);
+        return told(x, last);
+    }
+
+    static Coilworm fullRow() {
+        return fedBehind(39, 35);
+    }
+
+    static Coilworm fed(int... cells) {
+        return told(new Coilworm(), cells);
+    }
+
+    private static Coilworm told(Coilworm x, int... feeds) {
+        for (int feed : feeds) {
+            x.feed(feed);
+        }
         return x;
     }
 
     // ---- worms
+
+    static Coilworm begun(int cell, int owed, int... feeds) {
+        Coilworm x = new Coilworm();
+        x.begin(cell, owed);
+        return told(x, feeds);
+    }
+
+    /** A worm on 0, in a block between walls. */
+    static Coilworm inOneBlock(int owed, int... feeds) {
+        Coilworm x = oneBlock();
+        x.begin(0, owed);
+        return told(x, feeds);
+    }
 
     static Coilworm living() {
         Coilworm x = new Coilworm();
@@ -87,6 +115,10 @@ final class Scenes {
     /** The same, but it owes a growth of 1 for which there is no cell. */
     static Coilworm overfilled() {
         return filled(20);
+    }
+
+    static Coilworm filledWith(int... feeds) {
+        return told(filled(), feeds);
     }
 
     private static Coilworm filled(int owed) {

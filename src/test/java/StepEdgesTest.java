@@ -32,12 +32,6 @@ public final class StepEdgesTest {
         T.close();
     }
 
-    private static Coilworm begun(int cell, int owed) {
-        Coilworm x = new Coilworm();
-        x.begin(cell, owed);
-        return x;
-    }
-
     private static void dueDeath(String name, Checks.Maker scene, int direction) {
         Coilworm x = scene.make();
         String before = Scenes.worm(x);
@@ -49,7 +43,7 @@ public final class StepEdgesTest {
     private static void allDirections() {
         int[] heads = {8, 15, 20, 13};
         for (int direction = 0; direction < 4; direction++) {
-            Coilworm x = begun(14, 1);
+            Coilworm x = Scenes.begun(14, 1);
             T.due("step(" + direction + ")", x.step(direction), 2);
             T.due("behind step(" + direction + ")", Scenes.worm(x), heads[direction] + " 14 +0 feeds 0");
         }
@@ -87,10 +81,10 @@ public final class StepEdgesTest {
         for (int along = 0; along < 6; along++) {
             int top = along;
             int side = 6 * along;
-            dueDeath("the upper rim at " + top, () -> begun(top, 2), U);
-            dueDeath("the right rim at " + (side + 5), () -> begun(side + 5, 2), R);
-            dueDeath("the lower rim at " + (30 + top), () -> begun(30 + top, 2), D);
-            dueDeath("the left rim at " + side, () -> begun(side, 2), L);
+            dueDeath("the upper rim at " + top, () -> Scenes.begun(top, 2), U);
+            dueDeath("the right rim at " + (side + 5), () -> Scenes.begun(side + 5, 2), R);
+            dueDeath("the lower rim at " + (30 + top), () -> Scenes.begun(30 + top, 2), D);
+            dueDeath("the left rim at " + side, () -> Scenes.begun(side, 2), L);
         }
     }
 
@@ -115,7 +109,7 @@ public final class StepEdgesTest {
                 int shut = link;
                 int direction = link < 6 ? R : D;
                 int to = link < 6 ? from + 1 : from + 6;
-                Coilworm x = begun(from, 0);
+                Coilworm x = Scenes.begun(from, 0);
                 T.due("over the open link " + link, x.step(direction), 1);
                 T.due("back over the open link " + link, x.step((direction + 2) % 4), 1);
                 T.due("there again", Scenes.worm(x), from + " +0 feeds 0");
@@ -134,39 +128,39 @@ public final class StepEdgesTest {
 
     private static void ontoTheNeck() {
         dueDeath("three cells, the neck", () -> {
-            Coilworm x = begun(0, 2);
+            Coilworm x = Scenes.begun(0, 2);
             Scenes.steps(x, R, R);
             return x;
         }, L);
     }
 
     private static void ontoTheTailThatIsLeft() {
-        Coilworm x = begun(0, 3);
+        Coilworm x = Scenes.begun(0, 3);
         T.due("round the block 0", Scenes.steps(x, R, D, L, U), "2 3 4 4");
         T.due("behind that", Scenes.worm(x), "0 6 7 1 +0 feeds 0");
     }
 
     private static void ontoTheTailThatStays() {
         dueDeath("round the block 0, and it grows", () -> {
-            Coilworm x = begun(0, 4);
+            Coilworm x = Scenes.begun(0, 4);
             Scenes.steps(x, R, D, L);
             return x;
         }, U);
     }
 
     private static void twoCellsTurn() {
-        Coilworm x = begun(0, 1);
+        Coilworm x = Scenes.begun(0, 1);
         T.due("two cells turn", Scenes.steps(x, R, L), "2 2");
         T.due("behind that", Scenes.worm(x), "0 1 +0 feeds 0");
         dueDeath("two cells turn, and grow", () -> {
-            Coilworm y = begun(0, 2);
+            Coilworm y = Scenes.begun(0, 2);
             y.step(R);
             return y;
         }, L);
     }
 
     private static void owingRunsOut() {
-        Coilworm x = begun(0, 1);
+        Coilworm x = Scenes.begun(0, 1);
         T.due("owed 1: step(1)", x.step(R), 2);
         T.due("owed 1, behind it", Scenes.worm(x), "1 0 +0 feeds 0");
         T.due("owed 0: step(1)", x.step(R), 2);
@@ -213,7 +207,7 @@ public final class StepEdgesTest {
     }
 
     private static void eatsTheLastFeed() {
-        Coilworm x = begun(0, 0);
+        Coilworm x = Scenes.begun(0, 0);
         x.feed(1);
         T.due("the step to the feed", x.step(R), 1);
         T.due("behind the meal", Scenes.worm(x), "1 +2 feeds 0");
@@ -229,7 +223,7 @@ public final class StepEdgesTest {
     }
 
     private static void eatsOneOfTwoOnACell() {
-        Coilworm x = begun(0, 0);
+        Coilworm x = Scenes.begun(0, 0);
         x.feed(1);
         x.feed(1);
         T.due("the step to both", x.step(R), 1);
@@ -237,7 +231,7 @@ public final class StepEdgesTest {
     }
 
     private static void eatsNotTheSecond() {
-        Coilworm x = begun(0, 0);
+        Coilworm x = Scenes.begun(0, 0);
         x.feed(2);
         x.feed(1);
         T.due("the step to the second", x.step(R), 1);
@@ -247,7 +241,7 @@ public final class StepEdgesTest {
     }
 
     private static void overTheLastPlaceToTheFirst() {
-        Coilworm x = begun(12, 3);
+        Coilworm x = Scenes.begun(12, 3);
         T.due("by the places 34, 35, 0 and 1", Scenes.steps(x, U, U, R), "2 3 4");
         T.due("behind that", Scenes.worm(x), "1 0 6 12 +0 feeds 0");
     }

@@ -20,20 +20,6 @@ public final class WormEdgesTest {
         T.close();
     }
 
-    private static Coilworm begun(int cell, int owed) {
-        Coilworm x = new Coilworm();
-        x.begin(cell, owed);
-        return x;
-    }
-
-    private static Coilworm fed(int... cells) {
-        Coilworm x = new Coilworm();
-        for (int cell : cells) {
-            x.feed(cell);
-        }
-        return x;
-    }
-
     // ---- promise 10: begin
 
     private static void begins() {
@@ -48,21 +34,21 @@ public final class WormEdgesTest {
     }
 
     private static void beginOnTheSmallestCell() {
-        T.due("begin(0, 1)", Scenes.worm(begun(0, 1)), "0 +1 feeds 0");
+        T.due("begin(0, 1)", Scenes.worm(Scenes.begun(0, 1)), "0 +1 feeds 0");
     }
 
     private static void beginOnTheLargestCell() {
-        T.due("begin(35, 1)", Scenes.worm(begun(35, 1)), "35 +1 feeds 0");
+        T.due("begin(35, 1)", Scenes.worm(Scenes.begun(35, 1)), "35 +1 feeds 0");
     }
 
     private static void beginOwingNothing() {
-        Coilworm x = begun(14, 0);
+        Coilworm x = Scenes.begun(14, 0);
         T.due("begin(14, 0)", Scenes.worm(x), "14 +0 feeds 0");
         T.due("its first step", x.step(R), 1);
     }
 
     private static void beginOwingTheMost() {
-        Coilworm x = begun(0, 20);
+        Coilworm x = Scenes.begun(0, 20);
         T.due("begin(0, 20)", Scenes.worm(x), "0 +20 feeds 0");
         Scenes.round(x, 0, 20);
         T.due("behind 20 steps", x.length() + " +" + x.owed(), "21 +0");
@@ -71,7 +57,7 @@ public final class WormEdgesTest {
     }
 
     private static void beginOnAFeed() {
-        Coilworm x = fed(14);
+        Coilworm x = Scenes.fed(14);
         x.begin(14, 3);
         T.due("on a feed, which is not eaten", Scenes.worm(x), "14 +3 feeds 1");
     }
@@ -172,7 +158,7 @@ public final class WormEdgesTest {
     }
 
     private static void endOfOneCell() {
-        Coilworm x = begun(14, 20);
+        Coilworm x = Scenes.begun(14, 20);
         T.due("end() of one cell", x.end(), 1);
         T.due("behind it", Looks.at(x), Looks.at(new Coilworm()));
     }
@@ -240,7 +226,7 @@ public final class WormEdgesTest {
     }
 
     private static void feedWithAWorm() {
-        Coilworm x = begun(14, 1);
+        Coilworm x = Scenes.begun(14, 1);
         T.due("feed on the head", x.feed(14), 1);
         x.step(R);
         T.due("feed on the tail", x.feed(14), 2);
@@ -353,7 +339,7 @@ public final class WormEdgesTest {
 
     private static void lengths() {
         T.due("no worm: length()", new Coilworm().length(), 0);
-        T.due("one cell: length()", begun(0, 20).length(), 1);
+        T.due("one cell: length()", Scenes.begun(0, 20).length(), 1);
         T.due("a dead worm: length()", Scenes.dead().length(), 2);
         T.due("a worm on all cells: length()", Scenes.filled().length(), 36);
         Coilworm x = Scenes.overfilled();
@@ -367,8 +353,8 @@ public final class WormEdgesTest {
 
     private static void oweds() {
         T.due("no worm: owed()", new Coilworm().owed(), 0);
-        T.due("the least: owed()", begun(0, 0).owed(), 0);
-        T.due("the most: owed()", begun(0, 20).owed(), 20);
+        T.due("the least: owed()", Scenes.begun(0, 0).owed(), 0);
+        T.due("the most: owed()", Scenes.begun(0, 20).owed(), 20);
         T.due("a dead worm: owed()", Scenes.dead().owed(), 1);
         T.due("a worm on all cells: owed()", Scenes.overfilled().owed(), 1);
         owedTakesOneLessAndTwoMore();
@@ -379,7 +365,7 @@ public final class WormEdgesTest {
 
     private static void owedTakesOneLessAndTwoMore() {
         for (int owed = 0; owed <= 20; owed++) {
-            Coilworm x = begun(0, owed);
+            Coilworm x = Scenes.begun(0, owed);
             x.feed(1);
             x.step(R);
             T.due("a meal, owing " + owed, x.owed(), owed == 0 ? 2 : owed + 1);
@@ -387,7 +373,7 @@ public final class WormEdgesTest {
     }
 
     private static void owedDoesNotGoBelowNought() {
-        Coilworm x = begun(0, 1);
+        Coilworm x = Scenes.begun(0, 1);
         Scenes.round(x, 0, 1);
         T.due("owed 1, a step", x.owed(), 0);
         Scenes.round(x, 1, 1);
@@ -395,14 +381,14 @@ public final class WormEdgesTest {
     }
 
     private static void owedGoesOverTwenty() {
-        Coilworm x = fed(1, 2, 3, 4, 5);
+        Coilworm x = Scenes.fed(1, 2, 3, 4, 5);
         x.begin(0, 20);
         Scenes.round(x, 0, 5);
         T.due("20, and 5 meals", Scenes.worm(x), "5 4 3 2 1 0 +25 feeds 0");
     }
 
     private static void owedIsGoneWithTheWorm() {
-        Coilworm x = begun(0, 20);
+        Coilworm x = Scenes.begun(0, 20);
         x.end();
         T.due("a worm taken away: owed()", x.owed(), 0);
         x.begin(0, 0);
@@ -433,7 +419,7 @@ public final class WormEdgesTest {
 
     private static void bodyAtOutOfRange() {
         for (int place : new int[] {-1, 1, Scenes.LOWEST, Scenes.HIGHEST}) {
-            T.range("one cell: bodyAt(" + place + ")", () -> begun(0, 20), x -> x.bodyAt(place));
+            T.range("one cell: bodyAt(" + place + ")", () -> Scenes.begun(0, 20), x -> x.bodyAt(place));
         }
         for (int place : new int[] {-1, 2, 3}) {
             T.range("two cells: bodyAt(" + place + ")", Scenes::living, x -> x.bodyAt(place));
@@ -458,7 +444,7 @@ public final class WormEdgesTest {
 
     private static void feedCounts() {
         T.due("an empty row: feeds()", new Coilworm().feeds(), 0);
-        T.due("one: feeds()", fed(35).feeds(), 1);
+        T.due("one: feeds()", Scenes.fed(35).feeds(), 1);
         T.due("a full row: feeds()", Scenes.fullRow().feeds(), 40);
         feedsCountDownToNone();
         feedsStayWhenTheWormDies();
@@ -466,7 +452,7 @@ public final class WormEdgesTest {
     }
 
     private static void feedsCountDownToNone() {
-        Coilworm x = fed(1, 2);
+        Coilworm x = Scenes.fed(1, 2);
         x.begin(0, 0);
         Scenes.round(x, 0, 1);
         T.due("one eaten of two: feeds()", x.feeds(), 1);
@@ -477,7 +463,7 @@ public final class WormEdgesTest {
     }
 
     private static void feedsStayWhenTheWormDies() {
-        Coilworm x = fed(0, 35);
+        Coilworm x = Scenes.fed(0, 35);
         x.begin(0, 3);
         T.due("three steps", Scenes.steps(x, R, D, L), "2 3 4");
         x.end();

@@ -9,15 +9,10 @@ public final class WormTest {
     public static void main(String[] args) {
         begins();
         ends();
-        feeds();
         growsAndMoves();
         eats();
         eatsOnlyTheFirst();
         eatsALongRow();
-        diesAtTheRim();
-        diesAtWallsAndShutLinks();
-        diesOfItself();
-        followsItsTail();
         goesFar();
         T.close();
     }
@@ -66,20 +61,6 @@ public final class WormTest {
         x.begin(3, 0);
         T.due("isAlive() of the one behind the dead one", x.isAlive(), true);
         T.due("where the first one was", Scenes.steps(x, L, L, L), "1 1 1");
-    }
-
-    private static void feeds() {
-        Coilworm x = new Coilworm();
-        x.setWall(0, true);
-        T.due("feeds()", x.feeds(), 0);
-        for (int count = 1; count <= 40; count++) {
-            T.due("feed() number " + count, x.feed(count < 39 ? 35 : 2), count);
-            T.due("feeds()", x.feeds(), count);
-        }
-        x.begin(34, 0);
-        T.due("eating one", Scenes.steps(x, R), "1");
-        T.due("feeds()", x.feeds(), 39);
-        T.due("feed(20) again", x.feed(20), 40);
     }
 
     private static void growsAndMoves() {
@@ -162,84 +143,6 @@ public final class WormTest {
             T.due("length behind the meal " + i + " of the second row", x.step(path[i]), i + 1);
             T.due("feeds() of the second row", x.feeds(), cells.length - 1 - i);
         }
-    }
-
-    private static void dueDeath(String name, Coilworm x, int direction) {
-        String body = Scenes.body(x);
-        int owed = x.owed();
-        int feeds = x.feeds();
-        T.due(name, x.step(direction), 0);
-        T.due(name + ": isAlive()", x.isAlive(), false);
-        dueWorm(name, x, body, owed, feeds);
-    }
-
-    private static void diesAtTheRim() {
-        int[][] ways = {{0, U}, {5, U}, {5, R}, {11, R}, {35, R}, {35, D}, {30, D}, {30, L}, {6, L}, {12, L}, {0, L}};
-        for (int[] way : ways) {
-            Coilworm x = new Coilworm();
-            x.feed(way[0]);
-            x.begin(way[0], 4);
-            dueDeath("the rim at " + way[0] + " to " + way[1], x, way[1]);
-        }
-    }
-
-    private static void diesAtWallsAndShutLinks() {
-        Coilworm x = new Coilworm();
-        x.setWall(4, true);
-        int[][] ways = {{8, D}, {9, D}, {13, R}, {19, R}, {16, L}, {22, L}, {26, U}, {27, U}};
-        for (int[] way : ways) {
-            x.begin(way[0], 1);
-            dueDeath("the wall from " + way[0], x, way[1]);
-            x.end();
-        }
-        int[][] ends = {{1, R, 2}, {9, R, 10}, {13, R, 14}, {21, R, 22}, {25, R, 26}, {33, R, 34},
-            {6, D, 12}, {9, D, 15}, {11, D, 17}, {18, D, 24}, {20, D, 26}, {23, D, 29}};
-        for (int link = 0; link < 12; link++) {
-            Coilworm y = new Coilworm();
-            int from = ends[link][0];
-            int to = ends[link][2];
-            int direction = ends[link][1];
-            y.setLink(link, 9);
-            y.begin(from, 0);
-            T.due("over the link " + link, y.step(direction), 1);
-            T.due("back over the link " + link, y.step((direction + 2) % 4), 1);
-            y.end();
-            y.setLink(link, Coilworm.NONE);
-            y.begin(from, 0);
-            dueDeath("the shut link " + link, y, direction);
-            y.end();
-            y.begin(to, 0);
-            dueDeath("the shut link " + link + " back", y, (direction + 2) % 4);
-        }
-    }
-
-    private static void diesOfItself() {
-        Coilworm x = new Coilworm();
-        x.begin(0, 20);
-        T.due("steps", Scenes.steps(x, R, D), "2 3");
-        x.feed(1);
-        dueDeath("back on its neck", x, U);
-        Coilworm y = new Coilworm();
-        y.begin(0, 4);
-        T.due("steps", Scenes.steps(y, R, D, L), "2 3 4");
-        dueDeath("on the tail that stays", y, U);
-        Coilworm z = new Coilworm();
-        z.begin(0, 2);
-        T.due("steps", Scenes.steps(z, R), "2");
-        dueDeath("two cells, and it grows", z, L);
-    }
-
-    private static void followsItsTail() {
-        Coilworm x = new Coilworm();
-        x.begin(0, 3);
-        T.due("steps", Scenes.steps(x, R, D, L), "2 3 4");
-        dueWorm("round", x, "6 7 1 0", 0, 0);
-        T.due("on the tail that is left", Scenes.steps(x, U), "4");
-        dueWorm("round", x, "0 6 7 1", 0, 0);
-        Coilworm y = new Coilworm();
-        y.begin(0, 1);
-        T.due("two cells turn", Scenes.steps(y, R, L, R), "2 2 2");
-        dueWorm("two cells", y, "1 0", 0, 0);
     }
 
     private static void goesFar() {
