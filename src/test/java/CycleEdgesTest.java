@@ -18,6 +18,7 @@ public final class CycleEdgesTest {
         theCycleIsRefusedFirst();
         withAWorm();
         allSetsOfWalls();
+        allSetsOfShutLinks();
         T.close();
     }
 
@@ -188,6 +189,23 @@ public final class CycleEdgesTest {
         }
         // As many sets of blocks that hang together as a board of three by three has, five times.
         T.due("sets with a cycle", cycles, 5 * 218);
+    }
+
+    /** Each of the 4096 sets of shut links without walls, the trees among the sets that are left included. */
+    private static void allSetsOfShutLinks() {
+        int cycles = 0;
+        for (int shut = 0; shut < 4096; shut++) {
+            Coilworm x = new Coilworm();
+            for (int link = 0; link < 12; link++) {
+                x.setLink(link, (shut >> link & 1) != 0 ? Coilworm.NONE : link * 7 % 10);
+            }
+            if (x.hasCycle()) {
+                cycles++;
+                dueRound("shut links " + shut, x, 36);
+            }
+        }
+        // As many sets of links join all nodes of a grid of three by three; 192 of them are its trees.
+        T.due("sets of links with a cycle", cycles, 431);
     }
 
     private static void dueRound(String name, Coilworm x, int places) {
